@@ -1,0 +1,85 @@
+import java.util.NoSuchElementException;
+
+/** What the tests share: counting wrong answers, and texts given sign by sign. */
+final class Checks {
+    private final String test;
+    private int asked;
+    private int wrong;
+
+    Checks(String test) {
+        this.test = test;
+    }
+
+    interface Call {
+        long ask();
+    }
+
+    void due(String what, long got, long want) {
+        asked++;
+        if (got != want) {
+            wrong++;
+            System.out.println(test + ": " + what + " answered " + got + ", due is " + want);
+        }
+    }
+
+    void due(String what, boolean got, boolean want) {
+        due(what, got ? 1 : 0, want ? 1 : 0);
+    }
+
+    void throwsNoSuch(String what, Call call) {
+        boolean thrown = false;
+        try {
+            call.ask();
+        } catch (NoSuchElementException e) {
+            thrown = true;
+        }
+        due(what + " throws NoSuchElementException", thrown, true);
+    }
+
+    /** The whole ROW, as a call told it. */
+    void row(String what, MoreThanHalf x, long... want) {
+        due(what + ": numbers of the ROW", x.count(5), want.length);
+        for (int i = 0; i < want.length && i < x.count(5); i++) {
+            due(what + ": row(" + i + ")", x.row(i), want[i]);
+        }
+        throwsNoSuch(what + ": row(" + want.length + ")", () -> x.row(want.length));
+    }
+
+    void end() {
+        System.out.println(test + ": " + asked + " answers, " + wrong + " wrong");
+        if (asked == 0 || wrong > 0) {
+            System.exit(1);
+        }
+    }
+
+    static MoreThanHalf give(MoreThanHalf x, String text) {
+        for (int p = 0; p < text.length(); p += 4) {
+            int v = 0;
+            for (int k = p; k < p + 4; k++) {
+                v = v << 8 | (k < text.length() ? text.charAt(k) & 255 : 0);
+            }
+            x.sign(v);
+        }
+        x.end(text.length());
+        return x;
+    }
+
+    static int street(MoreThanHalf x, String text) {
+        return give(x, text).street();
+    }
+
+    static int rule(MoreThanHalf x, int shop, String text) {
+        return give(x, text).rule(shop);
+    }
+
+    /** A new object with a street of as many texts as it takes. */
+    static MoreThanHalf of(String... texts) {
+        MoreThanHalf x = new MoreThanHalf();
+        for (String text : texts) {
+            if (street(x, text) < 0) {
+                throw new IllegalArgumentException("no street: " + text);
+            }
+        }
+        return x;
+    }
+}
