@@ -34,7 +34,7 @@ public final class MoreThanHalf {
 
     private final int[] text = new int[TEXT_SIGNS];
     private int signs;
-    private final Numbers told = new Numbers();
+    private final Row told = new Row();
     private final Street street = new Street();
     private final Street[] kept = { new Street(), new Street() };
     private final boolean[] isKept = new boolean[KEPT];
@@ -87,7 +87,7 @@ public final class MoreThanHalf {
             case 2: return street.price[i];
             case 3: return street.firm >> i & 1;
             case 4: return street.allOf(i);
-            default: return street.echoOf(i);
+            default: return street.loudnessOf(i);
         }
     }
 
@@ -166,7 +166,7 @@ public final class MoreThanHalf {
     }
 
     public int talk(int people) {
-        if (!street.hasAll(people) || (people & ~street.open()) != 0) {
+        if (!street.hasAll(people) || (people & ~street.openToTalk()) != 0) {
             return NONE;
         }
         street.states[street.days] |= people;
@@ -190,15 +190,15 @@ public final class MoreThanHalf {
     }
 
     public long falls() {
-        int kept = NONE;
-        int grown = NONE;
+        int notLess = NONE;
+        int more = NONE;
         for (int day = street.days; day >= 2; day--) {
-            long more = street.fallOf(day) - street.fallOf(day - 1);
-            kept = more >= 0 ? day : kept;
-            grown = more > 0 ? day : grown;
+            long rise = street.fallOf(day) - street.fallOf(day - 1);
+            notLess = rise >= 0 ? day : notLess;
+            more = rise > 0 ? day : more;
         }
-        told.only(kept);
-        told.add(grown);
+        told.only(notLess);
+        told.add(more);
         return street.days < 2 ? 0 : street.fallOf(1) - street.fallOf(street.days);
     }
 
@@ -439,8 +439,7 @@ public final class MoreThanHalf {
         return told.numbers[i];
     }
 
-    /** The ROW. */
-    private static final class Numbers {
+    private static final class Row {
         private static final int MOST = 16;
         private final long[] numbers = new long[MOST];
         private int size;
@@ -494,8 +493,7 @@ public final class MoreThanHalf {
             return (firm >> i & 1) != 0;
         }
 
-        /** Those who can be talked round now. */
-        int open() {
+        int openToTalk() {
             return everybody() & ~firm & ~now();
         }
 
@@ -507,8 +505,7 @@ public final class MoreThanHalf {
             return sum;
         }
 
-        /** How loud one hears those told as bits. */
-        int hearing(int i, int bits) {
+        int sumHeard(int i, int bits) {
             int sum = 0;
             for (int j = 0; j < people; j++) {
                 sum += (bits >> j & 1) * loud[i][j];
@@ -517,11 +514,10 @@ public final class MoreThanHalf {
         }
 
         int allOf(int i) {
-            return hearing(i, everybody());
+            return sumHeard(i, everybody());
         }
 
-        /** How loud all others hear one. */
-        int echoOf(int i) {
+        int loudnessOf(int i) {
             int sum = 0;
             for (int j = 0; j < people; j++) {
                 sum += loud[j][i];
@@ -529,20 +525,26 @@ public final class MoreThanHalf {
             return sum;
         }
 
-        /** Those who hear at least one of those told as bits. */
-        int hearersOf(int bits) {
+        private int heardByOne(int i) {
             int they = 0;
-            for (int i = 0; i < people; i++) {
-                they |= hearing(i, bits) > 0 ? 1 << i : 0;
+            for (int j = 0; j < people; j++) {
+                they |= loud[i][j] > 0 ? 1 << j : 0;
             }
             return they;
         }
 
-        /** Those whom at least one of those told as bits hears. */
-        int heardBy(int bits) {
+        int heardByAny(int bits) {
             int they = 0;
             for (int i = 0; i < people; i++) {
-                they |= (hearersOf(1 << i) & bits) != 0 ? 1 << i : 0;
+                they |= (bits >> i & 1) != 0 ? heardByOne(i) : 0;
+            }
+            return they;
+        }
+
+        int hearersOfAny(int bits) {
+            int they = 0;
+            for (int i = 0; i < people; i++) {
+                they |= (heardByOne(i) & bits) != 0 ? 1 << i : 0;
             }
             return they;
         }
@@ -564,18 +566,18 @@ public final class MoreThanHalf {
         int partOf(int i) {
             int they = 1 << i;
             for (int step = 0; step < people; step++) {
-                they |= hearersOf(they) | heardBy(they);
+                they |= hearersOfAny(they) | heardByAny(they);
             }
             return they;
         }
 
-        /** How word goes from one to another one: the row is told by going on, each time, to the first one who is a step nearer. */
-        int passOn(int from, int to, Numbers told) {
+        // Going on, each time, to the first one who is a step nearer gives the least row.
+        int passOn(int from, int to, Row told) {
             int seen = 1 << to;
             nearer[0] = seen;
             int steps = 0;
             while (steps < MOST_PEOPLE && (nearer[steps] >> from & 1) == 0) {
-                nearer[steps + 1] = heardBy(nearer[steps]) & ~seen;
+                nearer[steps + 1] = heardByAny(nearer[steps]) & ~seen;
                 seen |= nearer[++steps];
             }
             if ((nearer[steps] >> from & 1) == 0) {
@@ -584,13 +586,12 @@ public final class MoreThanHalf {
             told.clear();
             int at = from;
             for (int left = steps - 1; left > 0; left--) {
-                at = Integer.numberOfTrailingZeros(hearersOf(1 << at) & nearer[left]);
+                at = Integer.numberOfTrailingZeros(hearersOfAny(1 << at) & nearer[left]);
                 told.add(at);
             }
             return steps;
         }
 
-        /** FALL of a DAY. */
         long fallOf(int day) {
             int on = states[day];
             int ahead = states[day - 1];
@@ -602,7 +603,7 @@ public final class MoreThanHalf {
                     sum += times * (2L * need[i] * all + 1);
                 }
                 if ((on >> i & 1) != 0) {
-                    sum -= 200L * hearing(i, ahead);
+                    sum -= 200L * sumHeard(i, ahead);
                 }
             }
             return sum;
@@ -637,7 +638,7 @@ public final class MoreThanHalf {
             version++;
         }
 
-        /** What is kept: not PEOPLE themselves, for they are the same. */
+        // PEOPLE themselves are the same, or it would be refused: so neither PRICES nor who is FIRM are taken.
         void takeDays(Street other) {
             days = other.days;
             System.arraycopy(other.states, 0, states, 0, MOST_DAYS + 1);
@@ -723,7 +724,7 @@ public final class MoreThanHalf {
         }
 
         private boolean readAcquaintance() {
-            int one = someone(NONE);
+            int one = someoneBut(NONE);
             if (one < 0) {
                 return false;
             }
@@ -731,7 +732,7 @@ public final class MoreThanHalf {
             if (!both && !take('>')) {
                 return false;
             }
-            int other = someone(one);
+            int other = someoneBut(one);
             if (other < 0 || !take('*')) {
                 return false;
             }
@@ -748,8 +749,7 @@ public final class MoreThanHalf {
             return true;
         }
 
-        /** One of PEOPLE, but not a told one; else the reader stands at the last digit. */
-        private int someone(int besides) {
+        private int someoneBut(int besides) {
             int who = number();
             if (who >= there || who >= 0 && who == besides) {
                 at--;
@@ -815,7 +815,6 @@ public final class MoreThanHalf {
             this.street = street;
         }
 
-        /** Takes up the street as it is. */
         void learn() {
             moving = 0;
             lowBar = 0;
@@ -842,19 +841,18 @@ public final class MoreThanHalf {
             }
         }
 
-        /** Makes the acquaintance of two, or ends it; only this Hearing knows of it. */
         void turnPair(int one, int other) {
-            int loud = street.isPair(one, other) ? 0 : 1;
-            addLoud(one, other, loud - street.loud[one][other]);
-            addLoud(other, one, loud - street.loud[other][one]);
-            raiseBar(one);
-            raiseBar(other);
+            addTurn(one, other, 1);
         }
 
         void turnPairBack(int one, int other) {
+            addTurn(one, other, -1);
+        }
+
+        private void addTurn(int one, int other, int times) {
             int loud = street.isPair(one, other) ? 0 : 1;
-            addLoud(one, other, street.loud[one][other] - loud);
-            addLoud(other, one, street.loud[other][one] - loud);
+            addLoud(one, other, times * (loud - street.loud[one][other]));
+            addLoud(other, one, times * (loud - street.loud[other][one]));
             raiseBar(one);
             raiseBar(other);
         }
@@ -881,7 +879,6 @@ public final class MoreThanHalf {
             moving = moves ? moving | 1 << i : moving & ~(1 << i);
         }
 
-        /** The STATE behind a STATE, as this Hearing has learnt it. */
         int next(int state) {
             long lowSums = lowBar;
             long highSums = highBar;
@@ -899,7 +896,7 @@ public final class MoreThanHalf {
             return (int) ((lanes >>> HIGHEST_BIT & LOWEST_OF_EACH) * GATHER >>> 56);
         }
 
-        /** The STATE behind a STATE of the street as it is: kept, since a search asks for the same ones often. */
+        // Kept by STATE, since a search asks for the same ones again and again.
         int after(int state) {
             if (version != street.version) {
                 learn();
@@ -928,14 +925,14 @@ public final class MoreThanHalf {
             return at;
         }
 
-        /** The first DAY of 0 .. n on which all of the wanted ones BELIEVE, or NONE; fresh: of what only this Hearing knows. */
-        int dayOf(int state, int wanted, int n, boolean fresh) {
+        // On trial, what is kept must not be asked: it is of the street as it is.
+        int dayOf(int state, int wanted, int n, boolean onTrial) {
             int at = state;
             for (int day = 0; day <= n; day++) {
                 if ((at & wanted) == wanted) {
                     return day;
                 }
-                int then = fresh ? next(at) : after(at);
+                int then = onTrial ? next(at) : after(at);
                 if (then == at) {
                     return NONE;
                 }
@@ -945,7 +942,7 @@ public final class MoreThanHalf {
         }
     }
 
-    /** Numbers 0 .. 32767 kept by level and STATE for one search; each search has a stamp of its own, so nothing has to be wiped. */
+    /** What a search has found out, by level and STATE; each search has its own stamp, so that nothing has to be wiped. */
     private static final class Memo {
         private static final int LEVELS = 7;
         private static final int VALUE_BITS = 15;
@@ -984,7 +981,7 @@ public final class MoreThanHalf {
         private final Street street;
         private final Hearing hearing;
         private final Memo memo;
-        private final Numbers told;
+        private final Row told;
         private int till;
         private int period;
         private int entry;
@@ -992,14 +989,13 @@ public final class MoreThanHalf {
         private int always;
         private int ever;
 
-        Orbits(Street street, Hearing hearing, Memo memo, Numbers told) {
+        Orbits(Street street, Hearing hearing, Memo memo, Row told) {
             this.street = street;
             this.hearing = hearing;
             this.memo = memo;
             this.told = told;
         }
 
-        /** Goes on from a STATE till one comes again. */
         void follow(int from) {
             memo.begin(street.people);
             int at = from;
@@ -1060,9 +1056,9 @@ public final class MoreThanHalf {
             for (int s = 0; s <= street.everybody(); s++) {
                 if (s != state && isFirmAs(s, state) && hearing.after(s) == then) {
                     many++;
-                    int otherwise = Integer.bitCount(s ^ state);
-                    nearest = otherwise < apart ? s : nearest;
-                    apart = Math.min(apart, otherwise);
+                    int differing = Integer.bitCount(s ^ state);
+                    nearest = differing < apart ? s : nearest;
+                    apart = Math.min(apart, differing);
                 }
             }
             answer(many, nearest);
@@ -1091,7 +1087,7 @@ public final class MoreThanHalf {
             return answer(many, lowest);
         }
 
-        /** Each STATE is gone through once: a walk that ends in its own marks has found a new round. */
+        // Each STATE is gone through once: a walk that ends in its own marks has found a new round.
         int comeAgain() {
             int now = street.now();
             int many = 0;
@@ -1100,7 +1096,7 @@ public final class MoreThanHalf {
             memo.begin(street.people);
             for (int s = 0; s <= street.everybody(); s++) {
                 if (isFirmAs(s, now) && memo.recall(0, s) == NONE) {
-                    int end = walk(s, s, NONE);
+                    int end = walkMarking(s, s, NONE);
                     int round = memo.recall(0, end) == s ? roundOf(end) : 0;
                     many += round;
                     rests += round == 1 ? 1 : 0;
@@ -1112,8 +1108,7 @@ public final class MoreThanHalf {
             return many;
         }
 
-        /** Goes on from a STATE, as long as STATES bear one mark, and puts another one there: where it ends. */
-        private int walk(int from, int mark, int over) {
+        private int walkMarking(int from, int mark, int over) {
             int at = from;
             for (int step = 0; step <= street.everybody() && memo.recall(0, at) == over; step++) {
                 memo.note(0, at, mark);
@@ -1132,7 +1127,7 @@ public final class MoreThanHalf {
             return days;
         }
 
-        /** From how many STATES one STATE comes on some DAY. */
+        // The second walk leaves the answer with all STATES of the first, so that none is asked twice.
         int leadTo(int goal) {
             final int yes = 1;
             final int no = 2;
@@ -1143,8 +1138,8 @@ public final class MoreThanHalf {
             memo.note(0, goal, yes);
             for (int s = 0; s <= street.everybody(); s++) {
                 if (isFirmAs(s, now)) {
-                    int end = walk(s, asked, NONE);
-                    walk(s, memo.recall(0, end) == yes ? yes : no, asked);
+                    int end = walkMarking(s, asked, NONE);
+                    walkMarking(s, memo.recall(0, end) == yes ? yes : no, asked);
                     many += memo.recall(0, s) == yes ? 1 : 0;
                 }
             }
@@ -1160,12 +1155,12 @@ public final class MoreThanHalf {
         private final Street street;
         private final Hearing hearing;
         private final Memo memo;
-        private final Numbers told;
+        private final Row told;
         private int wanted;
         private int sum;
         private int soonest;
 
-        Talking(Street street, Hearing hearing, Memo memo, Numbers told) {
+        Talking(Street street, Hearing hearing, Memo memo, Row told) {
             this.street = street;
             this.hearing = hearing;
             this.memo = memo;
@@ -1173,7 +1168,7 @@ public final class MoreThanHalf {
         }
 
         int atOnce(int people, int n, boolean priced) {
-            int open = street.open();
+            int open = street.openToTalk();
             int whom = NONE;
             int least = FAR * COUNTS;
             for (int set = 0; set <= street.everybody(); set++) {
@@ -1197,7 +1192,7 @@ public final class MoreThanHalf {
                 return NEVER;
             }
             told.only(soonest);
-            told.add(soonest == 0 ? NONE : whom(street.now(), soonest, sum));
+            told.add(soonest == 0 ? NONE : whomFirst(street.now(), soonest, sum));
             return sum;
         }
 
@@ -1209,7 +1204,7 @@ public final class MoreThanHalf {
             int state = street.now();
             int left = sum;
             for (int days = soonest; days > 0; days--) {
-                int who = whom(state, days, left);
+                int who = whomFirst(state, days, left);
                 told.add(who);
                 if (who != NONE) {
                     left -= street.price[who];
@@ -1225,17 +1220,16 @@ public final class MoreThanHalf {
             memo.begin(street.people);
             sum = FAR;
             for (int days = 0; days <= n; days++) {
-                int costs = costs(street.now(), days);
-                if (costs < sum) {
-                    sum = costs;
+                int needed = leastSum(street.now(), days);
+                if (needed < sum) {
+                    sum = needed;
                     soonest = days;
                 }
             }
             return sum < FAR;
         }
 
-        /** The least sum with which the wanted ones all BELIEVE so many DAYS behind a STATE; FAR: it can't be. */
-        private int costs(int state, int days) {
+        private int leastSum(int state, int days) {
             if (days <= 0) {
                 return (state & wanted) == wanted ? 0 : FAR;
             }
@@ -1243,39 +1237,36 @@ public final class MoreThanHalf {
             if (known != NONE) {
                 return known;
             }
-            int least = costs(hearing.after(state), days - 1);
+            int least = leastSum(hearing.after(state), days - 1);
             int open = street.everybody() & ~street.firm & ~state;
             for (int i = 0; i < street.people; i++) {
                 if ((open >> i & 1) != 0) {
-                    least = Math.min(least, costsWith(i, state, days));
+                    least = Math.min(least, leastSumWith(i, state, days));
                 }
             }
             memo.note(days, state, least);
             return least;
         }
 
-        private int costsWith(int i, int state, int days) {
-            return street.price[i] + costs(hearing.after(state | 1 << i), days - 1);
+        private int leastSumWith(int i, int state, int days) {
+            return street.price[i] + leastSum(hearing.after(state | 1 << i), days - 1);
         }
 
-        /** Whom to talk round first so that a sum does: nobody, or the first one. */
-        private int whom(int state, int days, int most) {
-            if (costs(hearing.after(state), days - 1) == most) {
+        private int whomFirst(int state, int days, int most) {
+            if (leastSum(hearing.after(state), days - 1) == most) {
                 return NONE;
             }
             int open = street.everybody() & ~street.firm & ~state;
             for (int i = 0; i < street.people; i++) {
-                if ((open >> i & 1) != 0 && costsWith(i, state, days) == most) {
+                if ((open >> i & 1) != 0 && leastSumWith(i, state, days) == most) {
                     return i;
                 }
             }
             return NONE;
         }
 
-        /**
-         * All who could be are talked round on DAY 0 but those made FIRM: so on that DAY told ones all BELIEVE, unless
-         * one of them is FIRM and does not, or is made so. Thus one is enough, and none does if all BELIEVE now.
-         */
+        // All who could be are talked round on DAY 0 but those made FIRM: so on that DAY told ones all BELIEVE, unless
+        // one of them is FIRM and does not, or is made so. Thus one is enough, and nobody does if all BELIEVE now.
         int keepFrom(int people) {
             int doubting = people & ~street.now();
             if (doubting == 0) {
@@ -1289,21 +1280,20 @@ public final class MoreThanHalf {
             return 1;
         }
 
-        /** Who of a set BELIEVES behind a DAY on which all others do who can: more who BELIEVE never make fewer. */
+        // It is enough to look at the DAY on which all others BELIEVE who can: more who do never make fewer behind it.
         private int lost(int set) {
             int others = street.everybody() & ~street.firm & ~set;
             return set & hearing.after(others | street.now() & street.firm);
         }
 
         int greatestHolding() {
-            int set = street.open();
+            int set = street.openToTalk();
             for (int step = 0; step <= MOST_PEOPLE; step++) {
                 set &= ~lost(set);
             }
             return set;
         }
 
-        /** The set with the fewest that HOLDS, of those who are left and with all of some; 0: none. */
         int smallestHolding(int left, int with) {
             int best = 0;
             int fewest = MOST_PEOPLE + 1;
@@ -1361,7 +1351,6 @@ public final class MoreThanHalf {
             }
         }
 
-        /** What it is for one of PEOPLE, of whom there is a number for each letter. */
         int value(int[] facts) {
             top = 0;
             for (int k = 0; k < size; k++) {
@@ -1534,11 +1523,11 @@ public final class MoreThanHalf {
         private final Hearing hearing;
         private final Memo memo;
         private final Rule[] rules;
-        private final Numbers told;
+        private final Row told;
         private final int[][] facts = new int[MOST_PEOPLE][7];
         private final int[] paid = new int[SHOPS];
 
-        Shops(Street street, Hearing hearing, Memo memo, Rule[] rules, Numbers told) {
+        Shops(Street street, Hearing hearing, Memo memo, Rule[] rules, Row told) {
             this.street = street;
             this.hearing = hearing;
             this.memo = memo;
@@ -1546,20 +1535,20 @@ public final class MoreThanHalf {
             this.told = told;
         }
 
-        /** Takes up what RULES ask for of each one, but for the side, which is another one in each STATE. */
+        // Of what RULES ask for, only how loud the SHOP's side is heard is another number in each STATE.
         void learn() {
             for (int i = 0; i < street.people; i++) {
                 facts[i][0] = i;
                 facts[i][1] = street.need[i];
                 facts[i][2] = street.price[i];
                 facts[i][3] = street.allOf(i);
-                facts[i][5] = street.echoOf(i);
-                facts[i][6] = Integer.bitCount(street.hearersOf(1 << i));
+                facts[i][5] = street.loudnessOf(i);
+                facts[i][6] = Integer.bitCount(street.hearersOfAny(1 << i));
             }
         }
 
         int rate(int shop, int i, int state) {
-            facts[i][Rule.SIDE] = street.hearing(i, shop == 1 ? state : ~state);
+            facts[i][Rule.SIDE] = street.sumHeard(i, shop == 1 ? state : ~state);
             return rules[shop].value(facts[i]);
         }
 
@@ -1608,20 +1597,19 @@ public final class MoreThanHalf {
         int playBoth(int n) {
             memo.begin(street.people);
             int now = street.now();
-            int value = most(now, n);
+            int value = bestForOne(now, n);
             int first = NONE;
-            if (n > 0 && least(now, n) != value) {
+            if (n > 0 && bestForZero(now, n) != value) {
                 int open = open(1, now);
                 for (int i = street.people - 1; i >= 0; i--) {
-                    first = (open >> i & 1) != 0 && least(now | 1 << i, n) == value ? i : first;
+                    first = (open >> i & 1) != 0 && bestForZero(now | 1 << i, n) == value ? i : first;
                 }
             }
             told.only(first);
             return value;
         }
 
-        /** How many BELIEVE in the end, SHOP 1 being next. */
-        private int most(int state, int days) {
+        private int bestForOne(int state, int days) {
             if (days <= 0) {
                 return Integer.bitCount(state);
             }
@@ -1629,29 +1617,28 @@ public final class MoreThanHalf {
             if (known != NONE) {
                 return known;
             }
-            int best = least(state, days);
+            int best = bestForZero(state, days);
             int open = open(1, state);
             for (int i = 0; i < street.people; i++) {
                 if ((open >> i & 1) != 0) {
-                    best = Math.max(best, least(state | 1 << i, days));
+                    best = Math.max(best, bestForZero(state | 1 << i, days));
                 }
             }
             memo.note(days, state, best);
             return best;
         }
 
-        /** How many BELIEVE in the end, SHOP 0 being next. */
-        private int least(int state, int days) {
+        private int bestForZero(int state, int days) {
             int level = FARTHEST_GAME + days;
             int known = memo.recall(level, state);
             if (known != NONE) {
                 return known;
             }
-            int best = most(hearing.after(state), days - 1);
+            int best = bestForOne(hearing.after(state), days - 1);
             int open = open(0, state);
             for (int i = 0; i < street.people; i++) {
                 if ((open >> i & 1) != 0) {
-                    best = Math.min(best, most(hearing.after(state ^ 1 << i), days - 1));
+                    best = Math.min(best, bestForOne(hearing.after(state ^ 1 << i), days - 1));
                 }
             }
             memo.note(level, state, best);
@@ -1662,12 +1649,12 @@ public final class MoreThanHalf {
             learn();
             memo.begin(street.people);
             int now = street.now();
-            int value = mostByRule(now, n);
+            int value = bestAgainstRule(now, n);
             int first = NONE;
-            if (n > 0 && mostByRule(replied(now), n - 1) != value) {
+            if (n > 0 && bestAgainstRule(behindReply(now), n - 1) != value) {
                 int open = open(1, now);
                 for (int i = street.people - 1; i >= 0; i--) {
-                    boolean does = (open >> i & 1) != 0 && mostByRule(replied(now | 1 << i), n - 1) == value;
+                    boolean does = (open >> i & 1) != 0 && bestAgainstRule(behindReply(now | 1 << i), n - 1) == value;
                     first = does ? i : first;
                 }
             }
@@ -1675,7 +1662,7 @@ public final class MoreThanHalf {
             return value;
         }
 
-        private int mostByRule(int state, int days) {
+        private int bestAgainstRule(int state, int days) {
             if (days <= 0) {
                 return Integer.bitCount(state);
             }
@@ -1683,19 +1670,18 @@ public final class MoreThanHalf {
             if (known != NONE) {
                 return known;
             }
-            int best = mostByRule(replied(state), days - 1);
+            int best = bestAgainstRule(behindReply(state), days - 1);
             int open = open(1, state);
             for (int i = 0; i < street.people; i++) {
                 if ((open >> i & 1) != 0) {
-                    best = Math.max(best, mostByRule(replied(state | 1 << i), days - 1));
+                    best = Math.max(best, bestAgainstRule(behindReply(state | 1 << i), days - 1));
                 }
             }
             memo.note(days, state, best);
             return best;
         }
 
-        /** The STATE behind the DAY, once SHOP 0 has won over one by its RULE. */
-        private int replied(int state) {
+        private int behindReply(int state) {
             int known = memo.recall(0, state);
             if (known != NONE) {
                 return known;
@@ -1710,11 +1696,11 @@ public final class MoreThanHalf {
     /** What if all had another NEED, or some other acquaintances. */
     private static final class Acquaintances {
         private final Street street;
-        private final Numbers told;
+        private final Row told;
         // One of its own: what is tried out here must not stay with the street's.
         private final Hearing trial;
 
-        Acquaintances(Street street, Numbers told) {
+        Acquaintances(Street street, Row told) {
             this.street = street;
             this.told = told;
             this.trial = new Hearing(street);
@@ -1724,7 +1710,7 @@ public final class MoreThanHalf {
             return trial.dayOf(street.now(), street.everybody(), n, true);
         }
 
-        /** With a lower NEED no fewer BELIEVE on any DAY: so the greatest one can be found by halves. */
+        // With a lower NEED no fewer BELIEVE on any DAY: so the greatest one can be found by halves.
         int highestNeed(int n) {
             trial.learn();
             int need = NONE;
@@ -1773,7 +1759,6 @@ public final class MoreThanHalf {
             return NEVER;
         }
 
-        /** The first pair, of those from one on, by which it is so; else as many as there are. */
         private int nextPair(int from, int n) {
             int pairs = street.people * street.people;
             for (int pair = from; pair < pairs; pair++) {
