@@ -236,6 +236,11 @@ public final class DaysPromisesTest {
         MoreThanHalf y = Checks.of("b50,1!;n50,1;0>1*1");
         due("20: 99", y.level(1), 99);
         row("20: 99", y, 1);
+        MoreThanHalf even = Checks.of("b50,1!;n50,1;n50,1;0>1*1;2>1*3;0>2*1");
+        due("20: 100 is above 24 * 4, not above 25 * 4", even.level(1), 24);
+        row("20: 100 is above 24 * 4, not above 25 * 4", even, 1);
+        due("20: with a DAY more", even.level(2), 99);
+        row("20: with a DAY more", even, 2);
         MoreThanHalf z = Checks.of("b50,1!;n50,1;n50,1!;0>1*9;2>1*9");
         due("20: one FIRM against", z.level(20), -2);
         MoreThanHalf w = Checks.of("b50,1;n50,1;n1,1;0>1*1;2>1*9;1>0*9;2>0*1;0>2*1;1>2*9");

@@ -93,6 +93,8 @@ public final class ShopsPromisesTest {
         value("10<2*3+4", 0);
         value("3>2", 1);
         value("2>3", 0);
+        value("2>2", 0);
+        value("2<2", 0);
         value("2=2", 1);
         value("2=3", 0);
         value("(2=2)+1", 2);
@@ -171,6 +173,18 @@ public final class ShopsPromisesTest {
     }
 
     private static void game() {
+        // What one wins, the other one wins back; with nobody to hear, none of them gets farther.
+        MoreThanHalf even = Checks.of("b1,1;n1,1;n1,1;b1,1");
+        for (int n = 1; n <= 3; n++) {
+            due("40: even, " + n, even.game(n), 2);
+            row("40: even, " + n, even, 1);
+        }
+        // 1 BELIEVES behind each DAY, 2 if 1 did: SHOP 0 wins 1 back each time, so SHOP 1 can't have 2.
+        MoreThanHalf chain = Checks.of("b1,1!;n1,1;n1,1;0>1*1;1>2*1");
+        for (int n = 1; n <= 3; n++) {
+            due("40: chain, " + n, chain.game(n), 2);
+            row("40: chain, " + n, chain, -1);
+        }
         MoreThanHalf x = Checks.of("n50,1;n50,2;n50,3!");
         due("40: game(0)", x.game(0), 0);
         row("40: game(0)", x, -1);
@@ -212,6 +226,19 @@ public final class ShopsPromisesTest {
     }
 
     private static void against() {
+        // Nobody hears anybody: each DAY SHOP 0 wins the first one who BELIEVES, so that SHOP 1 wins later ones.
+        MoreThanHalf late = Checks.of("b1,1;n1,1;n1,1;b1,1");
+        for (int n = 1; n <= 6; n++) {
+            due("41: as many as there were, " + n, late.against(n), 2);
+            row("41: as many as there were, " + n, late, 1);
+        }
+        // 1 and 2 hear one that BELIEVES for ever, but SHOP 0 wins the last one each DAY ahead of it: they come again.
+        MoreThanHalf again = Checks.of("b1,1!;n1,1;n1,1;0>1*1;0>2*1");
+        Checks.rule(again, 0, "i");
+        for (int n = 1; n <= 6; n++) {
+            due("41: they come again, " + n, again.against(n), 3);
+            row("41: they come again, " + n, again, -1);
+        }
         MoreThanHalf x = Checks.of("n50,1;n50,2;n50,3");
         due("41: against(0)", x.against(0), 0);
         row("41: against(0)", x, -1);
