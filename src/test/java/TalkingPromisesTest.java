@@ -216,6 +216,15 @@ public final class TalkingPromisesTest {
         due("34: who BELIEVES", x.shield(3), -2);
         row("34: -2 tells nothing", x, 24);
         due("34: FIRM", Checks.of("n60,1!").shield(0), -2);
+        MoreThanHalf ring = Checks.of("n1,1;n1,1;n1,1;n1,1;n1,1;n1,1;n1,1;n1,1;n1,1;n1,1;n1,1;n1,1;n1,1;n1,1");
+        for (int i = 0; i < 14; i++) {
+            Checks.street(ring, i + ">" + (i + 1) % 14 + "*1");
+        }
+        due("34: all 14", ring.shield(7), 14);
+        row("34: all 14", ring, 16383);
+        due("34: all 14 hold", ring.holds(), 14);
+        due("34: one bound", ring.bound(), 1);
+        row("34: one bound", ring, 16383);
     }
 
     private static void bound() {
