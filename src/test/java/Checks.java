@@ -3,6 +3,8 @@ import java.util.NoSuchElementException;
 /** What the tests share: counting wrong answers, and texts given sign by sign. */
 final class Checks {
     private final String test;
+    private String sentence = "";
+    private int sentences;
     private int asked;
     private int wrong;
 
@@ -14,11 +16,21 @@ final class Checks {
         long ask();
     }
 
+    /** From here on it is asked what the document says with these words, of a promise or (0) ahead of them. */
+    void sentence(int promise, String words) {
+        sentence = promise + " \"" + words + "\": ";
+        sentences++;
+    }
+
+    int asked() {
+        return asked;
+    }
+
     void due(String what, long got, long want) {
         asked++;
         if (got != want) {
             wrong++;
-            System.out.println(test + ": " + what + " answered " + got + ", due is " + want);
+            System.out.println(test + ": " + sentence + what + " answered " + got + ", due is " + want);
         }
     }
 
@@ -46,7 +58,8 @@ final class Checks {
     }
 
     void end() {
-        System.out.println(test + ": " + asked + " answers, " + wrong + " wrong");
+        String of = sentences > 0 ? sentences + " sentences, " : "";
+        System.out.println(test + ": " + of + asked + " answers, " + wrong + " wrong");
         if (asked == 0 || wrong > 0) {
             System.exit(1);
         }
