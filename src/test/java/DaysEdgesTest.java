@@ -339,6 +339,9 @@ public final class DaysEdgesTest {
         tells(c, "less on each", y, y.falls(), 101, -1, -1);
         y.go(1);
         tells(c, "equal on DAY 3, the last", y, y.falls(), 101, 3, -1);
+        MoreThanHalf one = Checks.of("b0,1;n0,1!;1>0*1");
+        one.go(2);
+        tells(c, "1, 0: less by one", one, one.falls(), 1, -1, -1);
     }
 
     @Says(promise = 16, words = "the first on which it was more (NONE).")
@@ -355,6 +358,10 @@ public final class DaysEdgesTest {
         tells(c, "84, -17, -17, -17", y, y.falls(), 101, 3, -1);
         y.talk(5);
         tells(c, "84, -17, -17, 165: equal ahead of more", y, y.falls(), 84 - 165, 3, 4);
+        MoreThanHalf one = Checks.of("n0,1;n0,1!;1>0*1");
+        one.go(2);
+        one.talk(1);
+        tells(c, "0, 1: more by one", one, one.falls(), -1, 2, 2);
     }
 
     // ---- 17: swings

@@ -208,6 +208,11 @@ public final class KeptEdgesTest {
         c.due("NEED of 1", x.person(1, 1), 99);
         c.due("LOUD of 1", x.hears(0, 1), 9);
         x.again(0);
+        x.talk(2);
+        x.go(200);
+        c.due("1 once more", x.again(1), true);
+        c.due("its last two STATES", x.state(199) * 10 + x.state(200), 21);
+        x.again(0);
         c.due("1 becomes another one", x.keep(1), true);
         x.go(3);
         c.due("1 again", x.again(1), true);
@@ -251,7 +256,9 @@ public final class KeptEdgesTest {
         x.sheet(2, 3, 1, 1);
         Checks.street(x, "0>1*7;0-2*3");
         x.part(0);
+        c.due("a DAY goes by otherwise", x.behind(3), 7);
         c.due("again(1)", x.again(1), true);
+        c.due("a DAY goes by as it did", x.behind(3), 5);
         c.due("DAYS, STATES, who hears whom, NEEDS", Probe.look(x, false).equals(before), true);
         c.row("the ROW is not kept", x, 1);
         c.due("DAYS behind those kept", x.state(3), -1);

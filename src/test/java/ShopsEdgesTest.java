@@ -274,6 +274,8 @@ public final class ShopsEdgesTest {
             tells(c, "the first it can, " + n, x, x.game(n), 2, 2);
         }
         tells(c, "no DAY: nobody", x, x.game(0), 2, -1);
+        MoreThanHalf zero = Checks.of("n1,1;n1,1;b1,1");
+        tells(c, "the first of all", zero, zero.game(1), 1, 0);
         MoreThanHalf none = Checks.of("n1,1;n1,1");
         tells(c, "nobody, as it is won back", none, none.game(1), 0, -1);
         MoreThanHalf third = Checks.of("b0,1;n1,1!;b0,1;n0,1;0-2*1;2-3*1;0-3*1");
@@ -307,6 +309,25 @@ public final class ShopsEdgesTest {
         c.due("against i, 6", x.against(6), 7);
     }
 
+    @Says(promise = 41, words = "SHOP 1 as well as can be against SHOP 0's RULE, n DAYS (0 .. 6)")
+    private static void againstARuleAsItIsNow(Checks c) {
+        MoreThanHalf x = Checks.of("n1,1;b1,2;b1,3;2>0*1");
+        Checks.rule(x, 0, "p");
+        tells(c, "it wins 2, so that 0 hears nobody", x, x.against(1), 1, -1);
+        x.set(1, 1, 4);
+        tells(c, "now it wins 1, and 0 hears 2", x, x.against(1), 2, -1);
+    }
+
+    @Says(promise = 41, words = ": likewise.")
+    private static void nobodyMayBeBest(Checks c) {
+        MoreThanHalf x = Checks.of("b50,1;b50,1;n50,1;b50,1;b50,1;b50,1", "n50,1!;b50,1!;6>0*1;7>0*9;2>1*2;0>3*1;0>4*1;0>5*1");
+        Checks.rule(x, 0, "s");
+        // If SHOP 1 wins 2, 1 hears nobody more who does not BELIEVE, so that SHOP 0 wins 0, whom 3, 4, 5 hear.
+        tells(c, "SHOP 0 wins 1, who is no loss", x, x.against(1), 5, -1);
+        x.talk(4);
+        tells(c, "SHOP 0 wins 0", x, x.against(1), 4, -1);
+    }
+
     @Says(promise = 41, words = ": likewise.")
     private static void againstLikewise(Checks c) {
         MoreThanHalf x = Streets.chain(14);
@@ -320,6 +341,15 @@ public final class ShopsEdgesTest {
         MoreThanHalf last = Checks.of("b1,1;n1,1;n1,1;n1,1");
         Checks.rule(last, 0, "i=0");
         tells(c, "the first of equal ones", last, last.against(6), 1, 1);
+        tells(c, "no DAY: nobody", last, last.against(0), 1, -1);
+        MoreThanHalf zero = Checks.of("n1,1;n1,1;b1,1");
+        Checks.rule(zero, 0, "i");
+        tells(c, "the first of all", zero, zero.against(1), 1, 0);
+        MoreThanHalf firm = Checks.of("b1,1;n1,1!;n1,1;n1,1");
+        tells(c, "the first that is not FIRM", firm, firm.against(1), 1, 2);
+        MoreThanHalf later = Checks.of("b1,1;n1,1;n1,1;n1,1;2>3*1");
+        Checks.rule(later, 0, "i=1");
+        tells(c, "a later one, for the sake of 3", later, later.against(1), 2, 2);
     }
 
     @Says(promise = 41, words = "NONE: another n.")

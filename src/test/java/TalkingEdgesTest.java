@@ -182,7 +182,9 @@ public final class TalkingEdgesTest {
         tells(c, "the first of two", y, y.daily(4, 6), 3, 1, 0);
         y.set(0, 1, 4);
         tells(c, "but not if it is dearer", y, y.daily(4, 6), 3, 1, 1);
-        MoreThanHalf last = Streets.more(Streets.alike(13, "n1,0"), 1, "n1,0");
+        MoreThanHalf firm = Checks.of("n50,3!;n50,3;n40,3;0>2*1;1>2*1");
+        tells(c, "the first that is not FIRM", firm, firm.daily(4, 6), 3, 1, 1);
+        MoreThanHalf last = Streets.alike(14, "n1,0");
         tells(c, "the last of 14", last, last.daily(1 << 13, 6), 0, 1, 13);
     }
 
