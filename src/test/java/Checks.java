@@ -57,6 +57,12 @@ final class Checks {
         throwsNoSuch(what + ": row(" + want.length + ")", () -> x.row(want.length));
     }
 
+    /** What a call answered, and the whole ROW behind it. */
+    void tells(String what, MoreThanHalf x, long got, long want, long... row) {
+        due(what, got, want);
+        row(what, x, row);
+    }
+
     void end() {
         String of = sentences > 0 ? sentences + " sentences, " : "";
         System.out.println(test + ": " + of + asked + " answers, " + wrong + " wrong");

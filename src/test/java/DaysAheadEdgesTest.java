@@ -4,11 +4,6 @@ public final class DaysAheadEdgesTest {
         Sentences.ask(DaysAheadEdgesTest.class);
     }
 
-    private static void tells(Checks c, String call, MoreThanHalf x, long got, long want, long... row) {
-        c.due(call, got, want);
-        c.row(call, x, row);
-    }
-
     /** All others hear 0 alone, who hears nobody. */
     private static MoreThanHalf star(String first) {
         MoreThanHalf x = Streets.more(Checks.of(first), 13, "n50,1");
@@ -23,43 +18,43 @@ public final class DaysAheadEdgesTest {
     @Says(promise = 23, words = "How many STATES there are from which the STATE comes")
     private static void fromHowMany(Checks c) {
         MoreThanHalf x = Streets.line();
-        tells(c, "1 comes from none", x, x.ahead(1), 0);
+        c.tells("1 comes from none", x, x.ahead(1), 0);
         x.talk(4);
-        tells(c, "5 comes from 2, 3, 6", x, x.ahead(1), 3, 2);
+        c.tells("5 comes from 2, 3, 6", x, x.ahead(1), 3, 2);
         MoreThanHalf star = star("b1,1");
         star.go(1);
-        tells(c, "half of all STATES of 14", star, star.ahead(1), 8192, 1);
+        c.tells("half of all STATES of 14", star, star.ahead(1), 8192, 1);
         MoreThanHalf alone = Streets.alike(14, "b1,1");
-        tells(c, "itself alone", alone, alone.ahead(3), 1, Streets.ALL_14);
+        c.tells("itself alone", alone, alone.ahead(3), 1, Streets.ALL_14);
     }
 
     @Says(promise = 23, words = "in n DAYS (1 .. 3; FIRM ones as they are): how many")
     private static void inOneToThreeDays(Checks c) {
         MoreThanHalf x = Streets.line();
         x.talk(4);
-        tells(c, "5 in 1 DAY", x, x.ahead(1), 3, 2);
-        tells(c, "5 in 2 DAYS", x, x.ahead(2), 1, 5);
-        tells(c, "5 in 3 DAYS", x, x.ahead(3), 3, 2);
+        c.tells("5 in 1 DAY", x, x.ahead(1), 3, 2);
+        c.tells("5 in 2 DAYS", x, x.ahead(2), 1, 5);
+        c.tells("5 in 3 DAYS", x, x.ahead(3), 3, 2);
         MoreThanHalf ring = Streets.rings(14);
-        tells(c, "1 DAY back in a ring", ring, ring.ahead(1), 1, 2);
-        tells(c, "2 DAYS back in a ring", ring, ring.ahead(2), 1, 4);
-        tells(c, "3 DAYS back in a ring", ring, ring.ahead(3), 1, 8);
+        c.tells("1 DAY back in a ring", ring, ring.ahead(1), 1, 2);
+        c.tells("2 DAYS back in a ring", ring, ring.ahead(2), 1, 4);
+        c.tells("3 DAYS back in a ring", ring, ring.ahead(3), 1, 8);
         MoreThanHalf firm = star("b1,1!");
         firm.go(1);
-        tells(c, "0 is FIRM", firm, firm.ahead(1), 8192, 1);
+        c.tells("0 is FIRM", firm, firm.ahead(1), 8192, 1);
         MoreThanHalf not = Checks.of("n1,1!;n1,1;0>1*1");
-        tells(c, "of 0, 1, 2, 3 only 0 and 2 have 0 as it is", not, not.ahead(1), 2, 0);
+        c.tells("of 0, 1, 2, 3 only 0 and 2 have 0 as it is", not, not.ahead(1), 2, 0);
     }
 
     @Says(promise = 23, words = "the ROW: the least of them (none without).")
     private static void leastOrNone(Checks c) {
         MoreThanHalf x = Streets.line();
         x.rest();
-        tells(c, "none", x, x.ahead(1), 0);
+        c.tells("none", x, x.ahead(1), 0);
         x.rest();
-        tells(c, "none in 3 DAYS", x, x.ahead(3), 0);
+        c.tells("none in 3 DAYS", x, x.ahead(3), 0);
         x.go(1);
-        tells(c, "0 is the least", x, x.ahead(1), 3, 0);
+        c.tells("0 is the least", x, x.ahead(1), 3, 0);
     }
 
     @Says(promise = 23, words = "NONE: another n.")
@@ -75,38 +70,38 @@ public final class DaysAheadEdgesTest {
     @Says(promise = 24, words = "How many other STATES")
     private static void howManyOthers(Checks c) {
         MoreThanHalf x = Streets.line();
-        tells(c, "7 has none", x, x.twins(7), 0);
-        tells(c, "5 has none", x, x.twins(5), 0);
-        tells(c, "2 has 3 and 6, not itself", x, x.twins(2), 2, 3, 1);
+        c.tells("7 has none", x, x.twins(7), 0);
+        c.tells("5 has none", x, x.twins(5), 0);
+        c.tells("2 has 3 and 6, not itself", x, x.twins(2), 2, 3, 1);
         MoreThanHalf star = star("n1,1");
-        tells(c, "8191 of 8192", star, star.twins(Streets.ALL_14), 8191, Streets.ALL_14 - (1 << 13), 1);
-        tells(c, "not of the STATE now", star, star.twins(1), 8191, 3, 1);
+        c.tells("8191 of 8192", star, star.twins(Streets.ALL_14), 8191, Streets.ALL_14 - (1 << 13), 1);
+        c.tells("not of the STATE now", star, star.twins(1), 8191, 3, 1);
     }
 
     @Says(promise = 24, words = "(with FIRM ones as in it) have the same STATE behind them as a STATE told as bits: how many")
     private static void firmAsInIt(Checks c) {
         MoreThanHalf x = Checks.of("b1,1!;n50,1;0>1*1");
-        tells(c, "FIRM as told, not as it is", x, x.twins(0), 1, 2, 1);
-        tells(c, "FIRM as told, as it is", x, x.twins(1), 1, 3, 1);
+        c.tells("FIRM as told, not as it is", x, x.twins(0), 1, 2, 1);
+        c.tells("FIRM as told, as it is", x, x.twins(1), 1, 3, 1);
         MoreThanHalf y = Checks.of("n1,1!;n50,1!");
-        tells(c, "all FIRM", y, y.twins(3), 0);
+        c.tells("all FIRM", y, y.twins(3), 0);
         MoreThanHalf z = Checks.of("n1,1!;n50,1;n50,1;2>1*1;1>2*1");
-        tells(c, "those who hear one another", z, z.twins(2), 0);
+        c.tells("those who hear one another", z, z.twins(2), 0);
     }
 
     @Says(promise = 24, words = "the ROW: the one of them with the fewest PEOPLE otherwise (of equal ones the least; none without), "
         + "how many these are.")
     private static void fewestOtherwise(Checks c) {
         MoreThanHalf x = Streets.line();
-        tells(c, "1: 0 is nearer than 4", x, x.twins(1), 2, 0, 1);
-        tells(c, "0: 1 is as near as 4, and less", x, x.twins(0), 2, 1, 1);
-        tells(c, "3: 2 is nearer than 6", x, x.twins(3), 2, 2, 1);
+        c.tells("1: 0 is nearer than 4", x, x.twins(1), 2, 0, 1);
+        c.tells("0: 1 is as near as 4, and less", x, x.twins(0), 2, 1, 1);
+        c.tells("3: 2 is nearer than 6", x, x.twins(3), 2, 2, 1);
         x.rest();
-        tells(c, "none without", x, x.twins(7), 0);
+        c.tells("none without", x, x.twins(7), 0);
         MoreThanHalf two = Checks.of("n50,1;n50,1;n0,1;n50,1;2>0*1;3>1*1;0>2*1;1>2*1;0>3*1;1>3*1");
-        tells(c, "two otherwise", two, two.twins(1), 1, 2, 2);
+        c.tells("two otherwise", two, two.twins(1), 1, 2, 2);
         MoreThanHalf all = Checks.of("n0,1;n0,1;n0,1;n0,1;0>2*1;1>2*1;0>3*1;1>3*1;2>0*1;3>0*1;2>1*1;3>1*1");
-        tells(c, "of equal ones the least", all, all.twins(5), 8, 7, 1);
+        c.tells("of equal ones the least", all, all.twins(5), 8, 7, 1);
     }
 
     @Says(promise = 24, words = "NONE: bits of none such.")
@@ -125,26 +120,26 @@ public final class DaysAheadEdgesTest {
     @Says(promise = 25, words = "STATES (FIRM ones as they are) to which none leads: how many")
     private static void toWhichNoneLeads(Checks c) {
         MoreThanHalf x = Streets.line();
-        tells(c, "1, 3, 4, 6", x, x.first(), 4, 1);
+        c.tells("1, 3, 4, 6", x, x.first(), 4, 1);
         MoreThanHalf star = star("n1,1");
-        tells(c, "all but 0 and all", star, star.first(), 16382, 1);
+        c.tells("all but 0 and all", star, star.first(), 16382, 1);
         MoreThanHalf firm = star("b1,1!");
-        tells(c, "all with 0 but all", firm, firm.first(), 8191, 1);
+        c.tells("all with 0 but all", firm, firm.first(), 8191, 1);
         MoreThanHalf against = star("n1,1!");
-        tells(c, "all without 0 but 0", against, against.first(), 8191, 2);
+        c.tells("all without 0 but 0", against, against.first(), 8191, 2);
     }
 
     @Says(promise = 25, words = "the ROW: the least of them (none without).")
     private static void leastFirst(Checks c) {
         MoreThanHalf x = Streets.rings(14);
         x.rest();
-        tells(c, "none", x, x.first(), 0);
+        c.tells("none", x, x.first(), 0);
         MoreThanHalf y = Checks.of("n1,1;n1,1;1>0*1");
-        tells(c, "1 and 2", y, y.first(), 2, 1);
+        c.tells("1 and 2", y, y.first(), 2, 1);
         MoreThanHalf z = Checks.of("n1,1;n1,1;0>1*1");
-        tells(c, "1 and 2, the other way", z, z.first(), 2, 1);
+        c.tells("1 and 2, the other way", z, z.first(), 2, 1);
         MoreThanHalf firm = Checks.of("b1,1!;n1,1;n1,1;0>1*1;0>2*1");
-        tells(c, "1, 3, 5", firm, firm.first(), 3, 1);
+        c.tells("1, 3, 5", firm, firm.first(), 3, 1);
     }
 
     // ---- 26: last
@@ -152,25 +147,25 @@ public final class DaysAheadEdgesTest {
     @Says(promise = 26, words = "STATES (FIRM ones as they are) that come again for ever: how many")
     private static void comeAgainForEver(Checks c) {
         MoreThanHalf x = Streets.line();
-        tells(c, "0, 2, 5, 7", x, x.last(), 4, 2, 2);
+        c.tells("0, 2, 5, 7", x, x.last(), 4, 2, 2);
         MoreThanHalf alone = Streets.alike(14, "n1,1");
-        tells(c, "all of 14 alone", alone, alone.last(), 16384, 16384, 1);
+        c.tells("all of 14 alone", alone, alone.last(), 16384, 16384, 1);
         MoreThanHalf firm = Streets.alike(14, "b1,1!");
-        tells(c, "one of 14 FIRM", firm, firm.last(), 1, 1, 1);
+        c.tells("one of 14 FIRM", firm, firm.last(), 1, 1, 1);
         MoreThanHalf half = star("b1,1!");
-        tells(c, "0 is FIRM", half, half.last(), 1, 1, 1);
+        c.tells("0 is FIRM", half, half.last(), 1, 1, 1);
     }
 
     @Says(promise = 26, words = "the ROW: how many of them rest, the most DAYS till one comes again.")
     private static void restOrMostDays(Checks c) {
         MoreThanHalf ring = Streets.rings(14);
-        tells(c, "nobody and all rest", ring, ring.last(), 16384, 2, 14);
+        c.tells("nobody and all rest", ring, ring.last(), 16384, 2, 14);
         MoreThanHalf rings = Streets.rings(3, 4, 7);
-        tells(c, "84 DAYS", rings, rings.last(), 16384, 8, 84);
+        c.tells("84 DAYS", rings, rings.last(), 16384, 8, 84);
         MoreThanHalf pair = Streets.rings(2);
-        tells(c, "2 DAYS", pair, pair.last(), 4, 2, 2);
+        c.tells("2 DAYS", pair, pair.last(), 4, 2, 2);
         MoreThanHalf none = Checks.of("n1,1;b1,1!;n1,1;1>0*1;2>0*1;0>2*1");
-        tells(c, "all rest", none, none.last(), 1, 1, 1);
+        c.tells("all rest", none, none.last(), 1, 1, 1);
     }
 
     // ---- 27: fates
@@ -178,34 +173,34 @@ public final class DaysAheadEdgesTest {
     @Says(promise = 27, words = "From how many STATES (FIRM ones as they are) all PEOPLE BELIEVE on some DAY")
     private static void allOnSomeDay(Checks c) {
         MoreThanHalf x = Streets.line();
-        tells(c, "7; 0, 1, 4", x, x.fates(), 1, 3);
+        c.tells("7; 0, 1, 4", x, x.fates(), 1, 3);
         MoreThanHalf star = star("n1,1");
-        tells(c, "half and half", star, star.fates(), 8192, 8192);
+        c.tells("half and half", star, star.fates(), 8192, 8192);
         MoreThanHalf firm = star("b1,1!");
-        tells(c, "0 is FIRM", firm, firm.fates(), 8192, 0);
+        c.tells("0 is FIRM", firm, firm.fates(), 8192, 0);
         MoreThanHalf chain = Streets.chain(14);
-        tells(c, "a long way", chain, chain.fates(), 8192, 0);
+        c.tells("a long way", chain, chain.fates(), 8192, 0);
     }
 
     @Says(promise = 27, words = "(that STATE itself is of DAY 0)")
     private static void itselfIsOfDay0(Checks c) {
         MoreThanHalf x = Streets.alike(14, "n1,1");
-        tells(c, "each STATE stays as it is", x, x.fates(), 1, 1);
+        c.tells("each STATE stays as it is", x, x.fates(), 1, 1);
         MoreThanHalf y = Checks.of("n1,1!;b1,1!");
-        tells(c, "neither all nor nobody", y, y.fates(), 0, 0);
+        c.tells("neither all nor nobody", y, y.fates(), 0, 0);
         MoreThanHalf z = Checks.of("b1,1!");
-        tells(c, "all", z, z.fates(), 1, 0);
+        c.tells("all", z, z.fates(), 1, 0);
         MoreThanHalf w = Checks.of("n1,1!");
-        tells(c, "nobody", w, w.fates(), 0, 1);
+        c.tells("nobody", w, w.fates(), 0, 1);
     }
 
     @Says(promise = 27, words = "the ROW: from how many nobody does on some DAY.")
     private static void nobodyOnSomeDay(Checks c) {
         MoreThanHalf against = star("n1,1!");
-        tells(c, "0 is FIRM against", against, against.fates(), 0, 8192);
+        c.tells("0 is FIRM against", against, against.fates(), 0, 8192);
         MoreThanHalf ring = Streets.rings(14);
-        tells(c, "one of each", ring, ring.fates(), 1, 1);
+        c.tells("one of each", ring, ring.fates(), 1, 1);
         MoreThanHalf back = Checks.of("n99,1;n99,1;n99,1;1>0*1;2>1*1;0>2*1;1>2*1");
-        tells(c, "all but all, in some DAYS", back, back.fates(), 1, 7);
+        c.tells("all but all, in some DAYS", back, back.fates(), 1, 7);
     }
 }

@@ -4,17 +4,11 @@ public final class DaysEdgesTest {
         Sentences.ask(DaysEdgesTest.class);
     }
 
-    private static void tells(Checks c, String call, MoreThanHalf x, long got, long want, long... row) {
-        c.due(call, got, want);
-        c.row(call, x, row);
-    }
-
     // ---- 10: state
 
     @Says(promise = 10, words = "The STATE of a DAY (0 .. DAYS).")
     private static void stateOfADay(Checks c) {
         MoreThanHalf x = Streets.rings(2);
-        x.talk(0);
         c.due("DAY 0 of none", x.state(0), 1);
         Streets.tell(x, "0-1*9");
         x.go(200);
@@ -184,15 +178,15 @@ public final class DaysEdgesTest {
     @Says(promise = 14, words = "From now on, how many DAYS till the first STATE that comes again for ever: how many")
     private static void daysTillItComesAgain(Checks c) {
         MoreThanHalf x = Streets.chain(14);
-        tells(c, "13 DAYS", x, x.rest(), 13, 1, Streets.ALL_14, Streets.ALL_14);
+        c.tells("13 DAYS", x, x.rest(), 13, 1, Streets.ALL_14, Streets.ALL_14);
         x.go(12);
-        tells(c, "1 DAY", x, x.rest(), 1, 1, Streets.ALL_14, Streets.ALL_14);
+        c.tells("1 DAY", x, x.rest(), 1, 1, Streets.ALL_14, Streets.ALL_14);
         x.go(1);
-        tells(c, "none", x, x.rest(), 0, 1, Streets.ALL_14, Streets.ALL_14);
+        c.tells("none", x, x.rest(), 0, 1, Streets.ALL_14, Streets.ALL_14);
         c.due("no DAY went by", x.count(1), 13);
         MoreThanHalf y = Streets.line();
         y.talk(2);
-        tells(c, "1 DAY, then for ever 5, 2", y, y.rest(), 1, 2, 5, 2);
+        c.tells("1 DAY, then for ever 5, 2", y, y.rest(), 1, 2, 5, 2);
         c.due("longer than 100", Streets.register(1).rest(), 170);
     }
 
@@ -206,25 +200,25 @@ public final class DaysEdgesTest {
             c.due("rings, " + k + ", come again", x.row(0), after[k]);
         }
         MoreThanHalf alone = Checks.of("b1,1");
-        tells(c, "it rests", alone, alone.rest(), 0, 1, 1, 1);
+        c.tells("it rests", alone, alone.rest(), 0, 1, 1, 1);
     }
 
     @Says(promise = 14, words = "that STATE, the least one (as a number) of those that come again.")
     private static void theLeastThatComesAgain(Checks c) {
         MoreThanHalf x = Streets.rings(14);
         x.go(3);
-        tells(c, "3 DAYS on", x, x.rest(), 0, 14, 1 << 11, 1);
+        c.tells("3 DAYS on", x, x.rest(), 0, 14, 1 << 11, 1);
         x.go(10);
-        tells(c, "13 DAYS on", x, x.rest(), 0, 14, 2, 1);
+        c.tells("13 DAYS on", x, x.rest(), 0, 14, 2, 1);
         MoreThanHalf y = Streets.line();
         y.talk(4);
-        tells(c, "5, then 2", y, y.rest(), 0, 2, 5, 2);
+        c.tells("5, then 2", y, y.rest(), 0, 2, 5, 2);
         y.go(1);
-        tells(c, "2, then 5", y, y.rest(), 0, 2, 2, 2);
+        c.tells("2, then 5", y, y.rest(), 0, 2, 2, 2);
         MoreThanHalf z = Streets.line();
-        tells(c, "a lesser one that comes never again does not count", z, z.rest(), 1, 1, 0, 0);
+        c.tells("a lesser one that comes never again does not count", z, z.rest(), 1, 1, 0, 0);
         MoreThanHalf w = Streets.chain(3);
-        tells(c, "nor does the first", w, w.rest(), 2, 1, 7, 7);
+        c.tells("nor does the first", w, w.rest(), 2, 1, 7, 7);
     }
 
     // ---- 15: fall
@@ -317,31 +311,31 @@ public final class DaysEdgesTest {
     private static void fewerThanTwoDays(Checks c) {
         MoreThanHalf x = Streets.line();
         x.talk(2);
-        tells(c, "DAYS 0", x, x.falls(), 0, -1, -1);
+        c.tells("DAYS 0", x, x.falls(), 0, -1, -1);
         x.go(1);
-        tells(c, "DAYS 1", x, x.falls(), 0, -1, -1);
+        c.tells("DAYS 1", x, x.falls(), 0, -1, -1);
         x.go(1);
-        tells(c, "DAYS 2", x, x.falls(), 84 + 17, -1, -1);
+        c.tells("DAYS 2", x, x.falls(), 84 + 17, -1, -1);
         x.go(198);
-        tells(c, "DAYS 200", x, x.falls(), 84 + 17, 3, -1);
+        c.tells("DAYS 200", x, x.falls(), 84 + 17, 3, -1);
     }
 
     @Says(promise = 16, words = "the ROW: the first DAY (2 .. DAYS) on which FALL was not less than on the DAY ahead (NONE)")
     private static void firstNotLess(Checks c) {
         MoreThanHalf x = Streets.rings(2);
         x.go(2);
-        tells(c, "equal on DAY 2, the last", x, x.falls(), 0, 2, -1);
+        c.tells("equal on DAY 2, the last", x, x.falls(), 0, 2, -1);
         x.go(1);
-        tells(c, "the first of two", x, x.falls(), 0, 2, -1);
+        c.tells("the first of two", x, x.falls(), 0, 2, -1);
         MoreThanHalf y = Streets.line();
         y.talk(2);
         y.go(2);
-        tells(c, "less on each", y, y.falls(), 101, -1, -1);
+        c.tells("less on each", y, y.falls(), 101, -1, -1);
         y.go(1);
-        tells(c, "equal on DAY 3, the last", y, y.falls(), 101, 3, -1);
+        c.tells("equal on DAY 3, the last", y, y.falls(), 101, 3, -1);
         MoreThanHalf one = Checks.of("b0,1;n0,1!;1>0*1");
         one.go(2);
-        tells(c, "1, 0: less by one", one, one.falls(), 1, -1, -1);
+        c.tells("1, 0: less by one", one, one.falls(), 1, -1, -1);
     }
 
     @Says(promise = 16, words = "the first on which it was more (NONE).")
@@ -349,19 +343,19 @@ public final class DaysEdgesTest {
         MoreThanHalf x = Streets.line();
         x.go(2);
         x.talk(6);
-        tells(c, "101, 282", x, x.falls(), 101 - 282, 2, 2);
+        c.tells("101, 282", x, x.falls(), 101 - 282, 2, 2);
         x.go(1);
-        tells(c, "101, 282, 64", x, x.falls(), 101 - 64, 2, 2);
+        c.tells("101, 282, 64", x, x.falls(), 101 - 64, 2, 2);
         MoreThanHalf y = Streets.line();
         y.talk(2);
         y.go(4);
-        tells(c, "84, -17, -17, -17", y, y.falls(), 101, 3, -1);
+        c.tells("84, -17, -17, -17", y, y.falls(), 101, 3, -1);
         y.talk(5);
-        tells(c, "84, -17, -17, 165: equal ahead of more", y, y.falls(), 84 - 165, 3, 4);
+        c.tells("84, -17, -17, 165: equal ahead of more", y, y.falls(), 84 - 165, 3, 4);
         MoreThanHalf one = Checks.of("n0,1;n0,1!;1>0*1");
         one.go(2);
         one.talk(1);
-        tells(c, "0, 1: more by one", one, one.falls(), -1, 2, 2);
+        c.tells("0, 1: more by one", one, one.falls(), -1, 2, 2);
     }
 
     // ---- 17: swings
@@ -369,27 +363,27 @@ public final class DaysEdgesTest {
     @Says(promise = 17, words = "PEOPLE (bits) who are not the same in all STATES that come again for ever from now on")
     private static void whoSwings(Checks c) {
         MoreThanHalf all = Streets.rings(14);
-        tells(c, "all 14", all, all.swings(), Streets.ALL_14, 0);
+        c.tells("all 14", all, all.swings(), Streets.ALL_14, 0);
         MoreThanHalf none = Streets.chain(14);
-        tells(c, "who comes to BELIEVE does not swing", none, none.swings(), 0, Streets.ALL_14);
+        c.tells("who comes to BELIEVE does not swing", none, none.swings(), 0, Streets.ALL_14);
         MoreThanHalf line = Streets.line();
         line.talk(2);
-        tells(c, "3, then for ever 5, 2", line, line.swings(), 7, 0);
+        c.tells("3, then for ever 5, 2", line, line.swings(), 7, 0);
         MoreThanHalf part = Checks.of("b50,1;n50,1;b50,1;n50,1!;0-1*1");
-        tells(c, "two of four", part, part.swings(), 3, 4);
+        c.tells("two of four", part, part.swings(), 3, 4);
     }
 
     @Says(promise = 17, words = "the ROW: those who BELIEVE in all of them.")
     private static void whoAlwaysBelieves(Checks c) {
         MoreThanHalf x = Streets.line();
-        tells(c, "nobody", x, x.swings(), 0, 0);
+        c.tells("nobody", x, x.swings(), 0, 0);
         x.talk(6);
-        tells(c, "all", x, x.swings(), 0, 7);
+        c.tells("all", x, x.swings(), 0, 7);
         MoreThanHalf y = Checks.of("b50,1!;b50,1;n50,1;n50,1;0>1*1;2-3*1");
         y.talk(8);
-        tells(c, "a FIRM one and who hears it, the others as well", y, y.swings(), 12, 3);
+        c.tells("a FIRM one and who hears it, the others as well", y, y.swings(), 12, 3);
         MoreThanHalf ring = Checks.of("b50,1;b50,1;n50,1;1>0*1;2>1*1;0>2*1");
-        tells(c, "two of three at a time, none of them always", ring, ring.swings(), 7, 0);
+        c.tells("two of three at a time, none of them always", ring, ring.swings(), 7, 0);
     }
 
     // ---- 18: otherwise
@@ -444,37 +438,37 @@ public final class DaysEdgesTest {
     @Says(promise = 19, words = "One by one, in order of their numbers, round by round")
     private static void inOrderOfTheirNumbers(Checks c) {
         MoreThanHalf x = Streets.chain(14);
-        tells(c, "each hears the one ahead: one round", x, x.onebyone(), 1, Streets.ALL_14, 13);
+        c.tells("each hears the one ahead: one round", x, x.onebyone(), 1, Streets.ALL_14, 13);
         MoreThanHalf y = backwards(14);
-        tells(c, "each hears the next one: a round each", y, y.onebyone(), 13, Streets.ALL_14, 13);
+        c.tells("each hears the next one: a round each", y, y.onebyone(), 13, Streets.ALL_14, 13);
     }
 
     @Says(promise = 19, words = "each takes up at once what it would on a DAY, of all as they are then")
     private static void atOnce(Checks c) {
         MoreThanHalf x = Streets.rings(2);
-        tells(c, "0 stops, so that 1 does not begin", x, x.onebyone(), 1, 0, 1);
+        c.tells("0 stops, so that 1 does not begin", x, x.onebyone(), 1, 0, 1);
         MoreThanHalf y = Checks.of("n50,1;b50,1;0-1*1");
-        tells(c, "0 begins, so that 1 does not stop", y, y.onebyone(), 1, 3, 1);
+        c.tells("0 begins, so that 1 does not stop", y, y.onebyone(), 1, 3, 1);
         MoreThanHalf z = Checks.of("b99,1!;n99,1!;b99,1;n99,1;1>0*1;0>1*1");
-        tells(c, "FIRM ones and those who hear nobody stay", z, z.onebyone(), 0, 5, 0);
+        c.tells("FIRM ones and those who hear nobody stay", z, z.onebyone(), 0, 5, 0);
     }
 
     @Says(promise = 19, words = "till a round changes nothing: how many rounds changed something")
     private static void tillARoundChangesNothing(Checks c) {
         MoreThanHalf x = Streets.line();
         x.talk(6);
-        tells(c, "none", x, x.onebyone(), 0, 7, 0);
+        c.tells("none", x, x.onebyone(), 0, 7, 0);
         MoreThanHalf y = backwards(2);
-        tells(c, "one", y, y.onebyone(), 1, 3, 1);
+        c.tells("one", y, y.onebyone(), 1, 3, 1);
         MoreThanHalf z = backwards(3);
-        tells(c, "two", z, z.onebyone(), 2, 7, 2);
+        c.tells("two", z, z.onebyone(), 2, 7, 2);
     }
 
     @Says(promise = 19, words = "the ROW: the STATE then, how many changed in all (each time).")
     private static void eachTime(Checks c) {
         MoreThanHalf x = Checks.of("n50,1;b50,1;n50,1;1>0*1;2>1*1");
         // 0 begins, 1 stops; then 0 stops.
-        tells(c, "0 twice, 1 once", x, x.onebyone(), 2, 0, 3);
+        c.tells("0 twice, 1 once", x, x.onebyone(), 2, 0, 3);
         c.due("the STATE now is not that STATE", x.state(0), 2);
     }
 
@@ -507,10 +501,10 @@ public final class DaysEdgesTest {
         }
         MoreThanHalf x = registerBehind(45);
         x.part(0);
-        tells(c, "101 rounds", x, x.onebyone(), -2, 1);
+        c.tells("101 rounds", x, x.onebyone(), -2, 1);
         MoreThanHalf never = Checks.of("n0,0;b0,0;n0,0;1>0*1;2>1*1;0>2*1");
         never.part(0);
-        tells(c, "never", never, never.onebyone(), -2, 1);
+        c.tells("never", never, never.onebyone(), -2, 1);
     }
 
     @Says(promise = 19, words = "Nothing changes.")
@@ -527,7 +521,7 @@ public final class DaysEdgesTest {
     @Says(promise = 20, words = "The greatest NEED (0 .. 99) which, if all had it, lets all BELIEVE")
     private static void greatestNeed(Checks c) {
         MoreThanHalf x = Checks.of("b0,1!;n0,1;0>1*1");
-        tells(c, "99", x, x.level(20), 99, 1);
+        c.tells("99", x, x.level(20), 99, 1);
         MoreThanHalf y = Streets.more(Checks.of("b99,1!"), 12, "n99,1");
         for (int i = 1; i < 12; i++) {
             Streets.tell(y, "12>" + i + "*1");
@@ -535,30 +529,29 @@ public final class DaysEdgesTest {
         }
         Streets.tell(y, "0>12*1");
         // 12 hears 0 as 1 of 100: not above 1 * 100.
-        tells(c, "0", y, y.level(20), 0, 2);
+        c.tells("0", y, y.level(20), 0, 2);
         Streets.tell(y, "1>12*8");
-        tells(c, "1: 100 is above 99", y, y.level(20), 1, 2);
+        c.tells("1: 100 is above 99", y, y.level(20), 1, 2);
         MoreThanHalf z = Checks.of("b50,1!;n50,1;n50,1!;0>1*1;2>1*1");
-        z.talk(0);
         c.due("one FIRM against", z.level(20), -2);
         MoreThanHalf now = Streets.alike(14, "b0,1");
-        tells(c, "all BELIEVE now", now, now.level(0), 99, 0);
+        c.tells("all BELIEVE now", now, now.level(0), 99, 0);
     }
 
     @Says(promise = 20, words = "on one same DAY of the first n (0 .. 20) from now")
     private static void onOneSameDayOfTheFirst(Checks c) {
         MoreThanHalf x = Streets.chain(14);
         c.due("12 DAYS", x.level(12), -2);
-        tells(c, "13 DAYS", x, x.level(13), 99, 13);
-        tells(c, "20 DAYS", x, x.level(20), 99, 13);
+        c.tells("13 DAYS", x, x.level(13), 99, 13);
+        c.tells("20 DAYS", x, x.level(20), 99, 13);
         x.go(12);
         c.due("now: one is missing", x.level(0), -2);
-        tells(c, "from now on", x, x.level(1), 99, 1);
+        c.tells("from now on", x, x.level(1), 99, 1);
         x.go(1);
-        tells(c, "now", x, x.level(0), 99, 0);
+        c.tells("now", x, x.level(0), 99, 0);
         MoreThanHalf long170 = Streets.register(1);
         long170.go(150);
-        tells(c, "20 of 20", long170, long170.level(20), 49, 20);
+        c.tells("20 of 20", long170, long170.level(20), 49, 20);
         c.due("20 of 19", long170.level(19), -2);
         MoreThanHalf longer = Streets.register(1);
         longer.go(149);
@@ -570,16 +563,16 @@ public final class DaysEdgesTest {
     @Says(promise = 20, words = "the ROW: the first such DAY by it.")
     private static void firstDayByIt(Checks c) {
         MoreThanHalf x = Checks.of("b50,1!;n50,1;n50,1;0>1*1;2>1*3;0>2*1");
-        tells(c, "24 in one DAY", x, x.level(1), 24, 1);
-        tells(c, "99 in two", x, x.level(2), 99, 2);
-        tells(c, "99 in 20", x, x.level(20), 99, 2);
+        c.tells("24 in one DAY", x, x.level(1), 24, 1);
+        c.tells("99 in two", x, x.level(2), 99, 2);
+        c.tells("99 in 20", x, x.level(20), 99, 2);
     }
 
     @Says(promise = 20, words = "-2: not even 0")
     private static void notEven0(Checks c) {
         MoreThanHalf x = Streets.alike(14, "n0,1");
         x.part(0);
-        tells(c, "nobody to hear", x, x.level(20), -2, 14);
+        c.tells("nobody to hear", x, x.level(20), -2, 14);
         MoreThanHalf y = Checks.of("b0,1!;n0,1!");
         c.due("a FIRM one does not", y.level(20), -2);
     }
@@ -609,13 +602,13 @@ public final class DaysEdgesTest {
     @Says(promise = 21, words = "How many steps word goes from one to another one (each who hears the one ahead at all), at least: how many")
     private static void howManySteps(Checks c) {
         MoreThanHalf x = Streets.chain(14);
-        tells(c, "13 steps", x, x.hops(0, 13), 13, 1, 2, 3, 4, 5, 6, 7, 8, 9, 10, 11, 12);
-        tells(c, "1 step", x, x.hops(12, 13), 1);
+        c.tells("13 steps", x, x.hops(0, 13), 13, 1, 2, 3, 4, 5, 6, 7, 8, 9, 10, 11, 12);
+        c.tells("1 step", x, x.hops(12, 13), 1);
         Streets.tell(x, "13>0*1");
-        tells(c, "from the last to the first", x, x.hops(13, 0), 1);
-        tells(c, "all but one step of a ring", x, x.hops(1, 0), 13, 2, 3, 4, 5, 6, 7, 8, 9, 10, 11, 12, 13);
+        c.tells("from the last to the first", x, x.hops(13, 0), 1);
+        c.tells("all but one step of a ring", x, x.hops(1, 0), 13, 2, 3, 4, 5, 6, 7, 8, 9, 10, 11, 12, 13);
         Streets.tell(x, "0>12*9");
-        tells(c, "a shorter way", x, x.hops(0, 13), 2, 12);
+        c.tells("a shorter way", x, x.hops(0, 13), 2, 12);
         Streets.tell(x, "0>12*0");
         c.due("LOUD 0 is no way", x.hops(0, 13), 13);
     }
@@ -623,20 +616,20 @@ public final class DaysEdgesTest {
     @Says(promise = 21, words = "the ROW: who passes it on, in order: of as few the least row.")
     private static void whoPassesItOn(Checks c) {
         MoreThanHalf x = Checks.of("n1,1;n1,1;n1,1;n1,1;n1,1;n1,1;0>1*9;0>2*1;2>3*1;3>5*1;2>4*9;4>5*9");
-        tells(c, "2, 3 and 2, 4", x, x.hops(0, 5), 3, 2, 3);
+        c.tells("2, 3 and 2, 4", x, x.hops(0, 5), 3, 2, 3);
         Streets.tell(x, "1>4*1");
-        tells(c, "1, 4 too", x, x.hops(0, 5), 3, 1, 4);
+        c.tells("1, 4 too", x, x.hops(0, 5), 3, 1, 4);
         Streets.tell(x, "2>5*1");
-        tells(c, "fewer comes first", x, x.hops(0, 5), 2, 2);
+        c.tells("fewer comes first", x, x.hops(0, 5), 2, 2);
     }
 
     @Says(promise = 21, words = "0: the same")
     private static void theSame(Checks c) {
         MoreThanHalf x = Streets.chain(14);
-        tells(c, "13 and 13", x, x.hops(13, 13), 0);
-        tells(c, "0 and 0", x, x.hops(0, 0), 0);
+        c.tells("13 and 13", x, x.hops(13, 13), 0);
+        c.tells("0 and 0", x, x.hops(0, 0), 0);
         MoreThanHalf alone = Checks.of("n1,1");
-        tells(c, "one alone", alone, alone.hops(0, 0), 0);
+        c.tells("one alone", alone, alone.hops(0, 0), 0);
     }
 
     @Says(promise = 21, words = "-2: never")
@@ -646,7 +639,7 @@ public final class DaysEdgesTest {
         c.due("from the last", x.hops(13, 12), -2);
         c.due("two alone", Checks.of("n1,1;n1,1").hops(0, 1), -2);
         x.part(0);
-        tells(c, "it tells nothing", x, x.hops(13, 0), -2, 1);
+        c.tells("it tells nothing", x, x.hops(13, 0), -2, 1);
     }
 
     @Says(promise = 21, words = "NONE: none such.")
@@ -682,15 +675,15 @@ public final class DaysEdgesTest {
     @Says(promise = 22, words = "the ROW: how many such parts the street has.")
     private static void howManyParts(Checks c) {
         MoreThanHalf x = Streets.alike(14, "n1,1");
-        tells(c, "14 alone", x, x.part(0), 1, 14);
+        c.tells("14 alone", x, x.part(0), 1, 14);
         Streets.tell(x, "0>13*1");
-        tells(c, "two of them together", x, x.part(13), 1 + (1 << 13), 13);
+        c.tells("two of them together", x, x.part(13), 1 + (1 << 13), 13);
         MoreThanHalf y = Streets.chain(14);
-        tells(c, "one", y, y.part(5), Streets.ALL_14, 1);
+        c.tells("one", y, y.part(5), Streets.ALL_14, 1);
         Streets.tell(y, "6>7*0");
-        tells(c, "two", y, y.part(6), 127, 2);
+        c.tells("two", y, y.part(6), 127, 2);
         MoreThanHalf alone = Checks.of("n1,1");
-        tells(c, "one alone", alone, alone.part(0), 1, 1);
+        c.tells("one alone", alone, alone.part(0), 1, 1);
     }
 
     @Says(promise = 22, words = "NONE: none such.")

@@ -4,29 +4,24 @@ public final class KeptEdgesTest {
         Sentences.ask(KeptEdgesTest.class);
     }
 
-    private static void tells(Checks c, String call, MoreThanHalf x, long got, long want, long... row) {
-        c.due(call, got, want);
-        c.row(call, x, row);
-    }
-
     // ---- 42: change
 
     @Says(promise = 42, words = "The fewest pairs of PEOPLE (1, 2)")
     private static void fewestPairs(Checks c) {
         MoreThanHalf x = Checks.of("b50,1!;n50,1;n50,1");
-        tells(c, "two", x, x.change(1), 2, 0, 1, 0, 2);
+        c.tells("two", x, x.change(1), 2, 0, 1, 0, 2);
         x.meet(0, 1, 1);
-        tells(c, "one", x, x.change(1), 1, 0, 2);
+        c.tells("one", x, x.change(1), 1, 0, 2);
         x.meet(0, 2, 1);
-        tells(c, "none", x, x.change(1), 0);
+        c.tells("none", x, x.change(1), 0);
         c.due("three", Checks.of("b50,1!;n50,1;n50,1;n50,1").change(20), -2);
         MoreThanHalf full = Streets.more(Streets.alike(12, "b50,1"), 1, "b50,1!");
         Streets.tell(full, "n50,1");
         // Another one than 12 would stop when it hears 13.
-        tells(c, "the last pair of 14", full, full.change(1), 1, 12, 13);
+        c.tells("the last pair of 14", full, full.change(1), 1, 12, 13);
         MoreThanHalf last = Streets.more(Streets.alike(11, "b50,1"), 1, "b50,1!");
         Streets.more(last, 2, "n50,1");
-        tells(c, "the last two pairs of 14", last, last.change(1), 2, 11, 12, 11, 13);
+        c.tells("the last two pairs of 14", last, last.change(1), 2, 11, 12, 11, 13);
     }
 
     @Says(promise = 42, words = "whose acquaintance is made (both hear each other as loud as 1, if neither heard the other)")
@@ -34,25 +29,25 @@ public final class KeptEdgesTest {
         MoreThanHalf both = Checks.of("b50,1;n50,1");
         c.due("both hear each other, by turns", both.change(20), -2);
         MoreThanHalf x = Checks.of("b50,1!;n49,1;n50,1;0>2*1;2>1*1");
-        tells(c, "as loud as 1: half is above NEED 49", x, x.change(1), 1, 0, 1);
+        c.tells("as loud as 1: half is above NEED 49", x, x.change(1), 1, 0, 1);
         x.set(1, 0, 50);
-        tells(c, "not above NEED 50, so that another one is ended", x, x.change(1), 2, 0, 1, 1, 2);
+        c.tells("not above NEED 50, so that another one is ended", x, x.change(1), 2, 0, 1, 1, 2);
         Streets.tell(x, "2>1*2");
         x.set(1, 0, 33);
-        tells(c, "a third is above NEED 33", x, x.change(1), 1, 0, 1);
+        c.tells("a third is above NEED 33", x, x.change(1), 1, 0, 1);
         c.due("nothing changed", x.hears(0, 1) + x.hears(1, 0), 0);
     }
 
     @Says(promise = 42, words = "or ended (else; both 0)")
     private static void ended(Checks c) {
         MoreThanHalf x = Checks.of("b50,1!;n50,1;n50,1;0>1*1;1-2*3;0>2*3");
-        tells(c, "both ways", x, x.change(1), 1, 1, 2);
+        c.tells("both ways", x, x.change(1), 1, 1, 2);
         MoreThanHalf y = Checks.of("b50,1!;n50,1;b50,1;0>1*1;2>1*1;1>2*1");
         y.meet(1, 2, 0);
         Streets.tell(y, "1>2*9");
-        tells(c, "one way, the lower one heard", y, y.change(1), 1, 1, 2);
+        c.tells("one way, the lower one heard", y, y.change(1), 1, 1, 2);
         MoreThanHalf z = Checks.of("b50,1!;b50,1;n50,1;2>1*1;0>2*1");
-        tells(c, "one way, the higher one heard", z, z.change(1), 1, 1, 2);
+        c.tells("one way, the higher one heard", z, z.change(1), 1, 1, 2);
         MoreThanHalf back = Checks.of("b50,1!;n50,1;1>0*1");
         c.due("what one hears of the other is ended, not made", back.change(20), -2);
         c.due("nothing changed", x.hears(1, 2) * 10 + x.hears(2, 1), 33);
@@ -63,16 +58,15 @@ public final class KeptEdgesTest {
         MoreThanHalf x = Checks.of("b50,1!;n50,1;n50,1;1>2*1");
         c.due("not now", x.change(0), -2);
         c.due("not in one DAY", x.change(1), -2);
-        tells(c, "in two", x, x.change(2), 1, 0, 1);
-        tells(c, "in 20", x, x.change(20), 1, 0, 1);
+        c.tells("in two", x, x.change(2), 1, 0, 1);
+        c.tells("in 20", x, x.change(20), 1, 0, 1);
         MoreThanHalf now = Streets.alike(14, "b50,1");
-        tells(c, "now", now, now.change(0), 0);
+        c.tells("now", now, now.change(0), 0);
         MoreThanHalf long170 = Streets.register(1);
         long170.go(150);
-        tells(c, "20 of 20", long170, long170.change(20), 0);
+        c.tells("20 of 20", long170, long170.change(20), 0);
         c.due("20 of 19", long170.change(19) != 0, true);
         MoreThanHalf turns = Streets.rings(2);
-        turns.talk(0);
         c.due("by turns, or never", turns.change(20), -2);
         c.due("no DAY went by", x.count(1), 0);
     }
@@ -80,35 +74,35 @@ public final class KeptEdgesTest {
     @Says(promise = 42, words = "the ROW: the pairs (a below b each): of as few the least row.")
     private static void leastRowOfPairs(Checks c) {
         MoreThanHalf x = Checks.of("b50,1!;b50,1!;n50,1;n50,1");
-        tells(c, "two of two each", x, x.change(1), 2, 0, 2, 0, 3);
-        tells(c, "the same in 20 DAYS, as no lesser pair helps", x, x.change(20), 2, 0, 2, 0, 3);
+        c.tells("two of two each", x, x.change(1), 2, 0, 2, 0, 3);
+        c.tells("the same in 20 DAYS, as no lesser pair helps", x, x.change(20), 2, 0, 2, 0, 3);
         x.meet(0, 3, 1);
-        tells(c, "one of two", x, x.change(1), 1, 0, 2);
+        c.tells("one of two", x, x.change(1), 1, 0, 2);
         MoreThanHalf y = Checks.of("n50,1;n50,1;b50,1!");
-        tells(c, "a below b", y, y.change(1), 2, 0, 2, 1, 2);
+        c.tells("a below b", y, y.change(1), 2, 0, 2, 1, 2);
         MoreThanHalf z = Checks.of("n50,1;n50,1;b50,1!;0>1*1");
-        tells(c, "one that is fewer, though 0, 1 is less", z, z.change(2), 1, 0, 2);
+        c.tells("one that is fewer, though 0, 1 is less", z, z.change(2), 1, 0, 2);
     }
 
     @Says(promise = 42, words = "0: it is so without (the ROW is empty)")
     private static void soWithout(Checks c) {
         MoreThanHalf x = Streets.chain(14);
         x.rest();
-        tells(c, "in 13 DAYS", x, x.change(13), 0);
+        c.tells("in 13 DAYS", x, x.change(13), 0);
         c.due("not in 12", x.change(12) > 0, true);
         MoreThanHalf nobody = new MoreThanHalf();
         nobody.rest();
-        tells(c, "of nobody", nobody, nobody.change(0), 0);
+        c.tells("of nobody", nobody, nobody.change(0), 0);
         MoreThanHalf alone = Checks.of("b1,1");
         alone.rest();
-        tells(c, "of one alone", alone, alone.change(0), 0);
+        c.tells("of one alone", alone, alone.change(0), 0);
     }
 
     @Says(promise = 42, words = "-2: two do not do; NONE: another n.")
     private static void twoDoNotDo(Checks c) {
         MoreThanHalf x = Checks.of("b50,1!;n50,1;n50,1!");
         x.part(0);
-        tells(c, "a FIRM one against", x, x.change(20), -2, 3);
+        c.tells("a FIRM one against", x, x.change(20), -2, 3);
         c.due("one alone", Checks.of("n1,1").change(20), -2);
         int[] others = { -1, 21, 22, Integer.MIN_VALUE, Integer.MAX_VALUE };
         for (int n : others) {
@@ -123,20 +117,20 @@ public final class KeptEdgesTest {
     @Says(promise = 43, words = "Such pairs by which alone it is so: how many; the ROW: how many of them are made.")
     private static void pairsAlone(Checks c) {
         MoreThanHalf all = Streets.alike(14, "b50,1");
-        tells(c, "all 91 pairs of 14, made", all, all.single(0), 91, 91);
+        c.tells("all 91 pairs of 14, made", all, all.single(0), 91, 91);
         Streets.tell(all, "0-1*1;12>13*9");
-        tells(c, "two of them ended", all, all.single(20), 91, 89);
+        c.tells("two of them ended", all, all.single(20), 91, 89);
         MoreThanHalf none = Checks.of("b50,1!;n50,1!");
-        tells(c, "none", none, none.single(20), 0, 0);
+        c.tells("none", none, none.single(20), 0, 0);
         MoreThanHalf x = Checks.of("b50,1!;n50,1;n50,1;1>2*1");
-        tells(c, "none in one DAY", x, x.single(1), 0, 0);
-        tells(c, "one in two", x, x.single(2), 1, 1);
+        c.tells("none in one DAY", x, x.single(1), 0, 0);
+        c.tells("one in two", x, x.single(2), 1, 1);
         MoreThanHalf y = Checks.of("b50,1!;n50,1;n50,1;0>1*1;1-2*3;0>2*3");
-        tells(c, "one ended", y, y.single(1), 1, 0);
+        c.tells("one ended", y, y.single(1), 1, 0);
         MoreThanHalf two = Checks.of("b50,1!;b50,1!;n50,1");
-        tells(c, "one of two", two, two.single(1), 2, 2);
+        c.tells("one of two", two, two.single(1), 2, 2);
         MoreThanHalf nobody = new MoreThanHalf();
-        tells(c, "of nobody", nobody, nobody.single(20), 0, 0);
+        c.tells("of nobody", nobody, nobody.single(20), 0, 0);
         c.due("with FIRM ones there are none", Checks.of("n1,1!;b1,1").single(20), 0);
     }
 

@@ -3,7 +3,6 @@ import java.util.NoSuchElementException;
 /** Looks at all that a street answers, so that two streets made alike can be told apart. */
 final class Probe {
     static final String STREET = "b50,3;n50,2;n40,1!;n30,4;0-1*1;1-2*1;3>0*2;0>3*5";
-    static final int STATE = 1;
 
     private Probe() {
     }

@@ -6,11 +6,6 @@ public final class ShopsEdgesTest {
         Sentences.ask(ShopsEdgesTest.class);
     }
 
-    private static void tells(Checks c, String call, MoreThanHalf x, long got, long want, long... row) {
-        c.due(call, got, want);
-        c.row(call, x, row);
-    }
-
     /** 0 is FIRM and BELIEVES; behind it four lines of three, each of whom hears the one ahead of it. */
     private static MoreThanHalf fourLines() {
         MoreThanHalf x = Streets.more(Checks.of("b50,1!"), 12, "n50,1");
@@ -204,26 +199,26 @@ public final class ShopsEdgesTest {
         MoreThanHalf x = Streets.chain(14);
         Checks.rule(x, 0, "0");
         Checks.rule(x, 1, "i");
-        tells(c, "no DAY", x, x.market(0), 1, 1, 0, 0);
+        c.tells("no DAY", x, x.market(0), 1, 1, 0, 0);
         // SHOP 1 wins 13, SHOP 0 wins it back, then 1 BELIEVES; the next DAY SHOP 0 wins 1, and 13 hears 12, who does not.
-        tells(c, "one DAY", x, x.market(1), 2, 3, 1, 1);
-        tells(c, "two DAYS", x, x.market(2), 2, 3, 2, 2);
-        tells(c, "60 DAYS", x, x.market(60), 2, 3, 60, 60);
+        c.tells("one DAY", x, x.market(1), 2, 3, 1, 1);
+        c.tells("two DAYS", x, x.market(2), 2, 3, 2, 2);
+        c.tells("60 DAYS", x, x.market(60), 2, 3, 60, 60);
         x.go(200);
         // 2 BELIEVES behind no 1 any more: one DAY more, one less.
-        tells(c, "from now on, though there are 200", x, x.market(1), 13, Streets.ALL_14 - 4, 1, 0);
+        c.tells("from now on, though there are 200", x, x.market(1), 13, Streets.ALL_14 - 4, 1, 0);
     }
 
     @Says(promise = 39, words = "the ROW: that STATE, what SHOP 0, SHOP 1 paid.")
     private static void whatShopsPaid(Checks c) {
         MoreThanHalf x = Checks.of("n1,9;n1,0");
-        tells(c, "both as much", x, x.market(60), 0, 0, 540, 540);
+        c.tells("both as much", x, x.market(60), 0, 0, 540, 540);
         MoreThanHalf y = Checks.of("b1,3;n1,9");
-        tells(c, "SHOP 0 the first, SHOP 1 the second", y, y.market(1), 1, 2, 3, 9);
+        c.tells("SHOP 0 the first, SHOP 1 the second", y, y.market(1), 1, 2, 3, 9);
         MoreThanHalf firm = Checks.of("b1,3!;b1,3!;n1,9!");
-        tells(c, "nobody to win over", firm, firm.market(60), 2, 3, 0, 0);
+        c.tells("nobody to win over", firm, firm.market(60), 2, 3, 0, 0);
         MoreThanHalf free = Checks.of("b1,0;n1,0");
-        tells(c, "for nothing", free, free.market(60), 1, 2, 0, 0);
+        c.tells("for nothing", free, free.market(60), 1, 2, 0, 0);
     }
 
     @Says(promise = 39, words = "Nothing changes.")
@@ -260,26 +255,26 @@ public final class ShopsEdgesTest {
     @Says(promise = 40, words = "each may also win over nobody: how many BELIEVE then")
     private static void eachMayWinNobody(Checks c) {
         MoreThanHalf x = Checks.of("n1,1!;b1,1!;b1,1;0>2*9;1>2*1");
-        tells(c, "SHOP 1 has nobody, SHOP 0 wins 2 in vain", x, x.game(1), 2, -1);
+        c.tells("SHOP 1 has nobody, SHOP 0 wins 2 in vain", x, x.game(1), 2, -1);
         MoreThanHalf y = Checks.of("b1,1!;b1,1!;n1,1;0>2*1");
-        tells(c, "SHOP 0 has nobody, SHOP 1 need not", y, y.game(1), 3, -1);
+        c.tells("SHOP 0 has nobody, SHOP 1 need not", y, y.game(1), 3, -1);
         MoreThanHalf z = Checks.of("n1,1!;n1,1!");
-        tells(c, "neither has", z, z.game(3), 0, -1);
+        c.tells("neither has", z, z.game(3), 0, -1);
     }
 
     @Says(promise = 40, words = "the ROW: whom SHOP 1 wins over first (of equal ones nobody: NONE, then the first).")
     private static void whomFirst(Checks c) {
         MoreThanHalf x = Checks.of("b1,1;n1,1!;n1,1;n1,1;b1,1");
         for (int n = 1; n <= 3; n++) {
-            tells(c, "the first it can, " + n, x, x.game(n), 2, 2);
+            c.tells("the first it can, " + n, x, x.game(n), 2, 2);
         }
-        tells(c, "no DAY: nobody", x, x.game(0), 2, -1);
+        c.tells("no DAY: nobody", x, x.game(0), 2, -1);
         MoreThanHalf zero = Checks.of("n1,1;n1,1;b1,1");
-        tells(c, "the first of all", zero, zero.game(1), 1, 0);
+        c.tells("the first of all", zero, zero.game(1), 1, 0);
         MoreThanHalf none = Checks.of("n1,1;n1,1");
-        tells(c, "nobody, as it is won back", none, none.game(1), 0, -1);
+        c.tells("nobody, as it is won back", none, none.game(1), 0, -1);
         MoreThanHalf third = Checks.of("b0,1;n1,1!;b0,1;n0,1;0-2*1;2-3*1;0-3*1");
-        tells(c, "the one that is needed", third, third.game(1), 3, 3);
+        c.tells("the one that is needed", third, third.game(1), 3, 3);
     }
 
     @Says(promise = 40, words = "NONE: another n.")
@@ -313,9 +308,9 @@ public final class ShopsEdgesTest {
     private static void againstARuleAsItIsNow(Checks c) {
         MoreThanHalf x = Checks.of("n1,1;b1,2;b1,3;2>0*1");
         Checks.rule(x, 0, "p");
-        tells(c, "it wins 2, so that 0 hears nobody", x, x.against(1), 1, -1);
+        c.tells("it wins 2, so that 0 hears nobody", x, x.against(1), 1, -1);
         x.set(1, 1, 4);
-        tells(c, "now it wins 1, and 0 hears 2", x, x.against(1), 2, -1);
+        c.tells("now it wins 1, and 0 hears 2", x, x.against(1), 2, -1);
     }
 
     @Says(promise = 41, words = ": likewise.")
@@ -323,33 +318,33 @@ public final class ShopsEdgesTest {
         MoreThanHalf x = Checks.of("b50,1;b50,1;n50,1;b50,1;b50,1;b50,1", "n50,1!;b50,1!;6>0*1;7>0*9;2>1*2;0>3*1;0>4*1;0>5*1");
         Checks.rule(x, 0, "s");
         // If SHOP 1 wins 2, 1 hears nobody more who does not BELIEVE, so that SHOP 0 wins 0, whom 3, 4, 5 hear.
-        tells(c, "SHOP 0 wins 1, who is no loss", x, x.against(1), 5, -1);
+        c.tells("SHOP 0 wins 1, who is no loss", x, x.against(1), 5, -1);
         x.talk(4);
-        tells(c, "SHOP 0 wins 0", x, x.against(1), 4, -1);
+        c.tells("SHOP 0 wins 0", x, x.against(1), 4, -1);
     }
 
     @Says(promise = 41, words = ": likewise.")
     private static void againstLikewise(Checks c) {
         MoreThanHalf x = Streets.chain(14);
-        tells(c, "no DAY", x, x.against(0), 1, -1);
-        tells(c, "nobody, if it is as well", x, x.against(6), 7, -1);
+        c.tells("no DAY", x, x.against(0), 1, -1);
+        c.tells("nobody, if it is as well", x, x.against(6), 7, -1);
         x.go(1);
-        tells(c, "then the first that is: 2, so that SHOP 0 wins 1", x, x.against(6), 8, 2);
-        tells(c, "in a DAY", x, x.against(1), 3, 2);
+        c.tells("then the first that is: 2, so that SHOP 0 wins 1", x, x.against(6), 8, 2);
+        c.tells("in a DAY", x, x.against(1), 3, 2);
         Checks.rule(x, 0, "i");
-        tells(c, "the first: 2 is won back, but 1 is not", x, x.against(1), 3, 2);
+        c.tells("the first: 2 is won back, but 1 is not", x, x.against(1), 3, 2);
         MoreThanHalf last = Checks.of("b1,1;n1,1;n1,1;n1,1");
         Checks.rule(last, 0, "i=0");
-        tells(c, "the first of equal ones", last, last.against(6), 1, 1);
-        tells(c, "no DAY: nobody", last, last.against(0), 1, -1);
+        c.tells("the first of equal ones", last, last.against(6), 1, 1);
+        c.tells("no DAY: nobody", last, last.against(0), 1, -1);
         MoreThanHalf zero = Checks.of("n1,1;n1,1;b1,1");
         Checks.rule(zero, 0, "i");
-        tells(c, "the first of all", zero, zero.against(1), 1, 0);
+        c.tells("the first of all", zero, zero.against(1), 1, 0);
         MoreThanHalf firm = Checks.of("b1,1;n1,1!;n1,1;n1,1");
-        tells(c, "the first that is not FIRM", firm, firm.against(1), 1, 2);
+        c.tells("the first that is not FIRM", firm, firm.against(1), 1, 2);
         MoreThanHalf later = Checks.of("b1,1;n1,1;n1,1;n1,1;2>3*1");
         Checks.rule(later, 0, "i=1");
-        tells(c, "a later one, for the sake of 3", later, later.against(1), 2, 2);
+        c.tells("a later one, for the sake of 3", later, later.against(1), 2, 2);
     }
 
     @Says(promise = 41, words = "NONE: another n.")

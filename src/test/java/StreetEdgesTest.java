@@ -28,35 +28,30 @@ public final class StreetEdgesTest {
         c.due("behind(0)", x.behind(0), 0);
     }
 
-    private static void tells(Checks c, String call, MoreThanHalf x, long got, long want, long... row) {
-        c.due(call, got, want);
-        c.row(call, x, row);
-    }
-
     @Says(promise = 1, words = "Nobody.")
     private static void whatNobodyTells(Checks c) {
         MoreThanHalf x = new MoreThanHalf();
-        tells(c, "rest()", x, x.rest(), 0, 1, 0, 0);
-        tells(c, "falls()", x, x.falls(), 0, -1, -1);
-        tells(c, "swings()", x, x.swings(), 0, 0);
-        tells(c, "onebyone()", x, x.onebyone(), 0, 0, 0);
-        tells(c, "level(20)", x, x.level(20), 99, 0);
-        tells(c, "ahead(1)", x, x.ahead(1), 1, 0);
-        tells(c, "twins(0)", x, x.twins(0), 0);
-        tells(c, "last()", x, x.last(), 1, 1, 1);
-        tells(c, "first()", x, x.first(), 0);
-        tells(c, "fates()", x, x.fates(), 1, 1);
-        tells(c, "fewest(0, 20)", x, x.fewest(0, 20), 0, 0);
-        tells(c, "cheapest(0, 0)", x, x.cheapest(0, 0), 0, 0);
-        tells(c, "daily(0, 6)", x, x.daily(0, 6), 0, 0, -1);
-        tells(c, "plan(0, 6)", x, x.plan(0, 6), 0);
-        tells(c, "holds()", x, x.holds(), 0, 0);
-        tells(c, "bound()", x, x.bound(), 0);
-        tells(c, "market(60)", x, x.market(60), 0, 0, 0, 0);
-        tells(c, "game(3)", x, x.game(3), 0, -1);
-        tells(c, "against(6)", x, x.against(6), 0, -1);
-        tells(c, "change(20)", x, x.change(20), 0);
-        tells(c, "single(0)", x, x.single(0), 0, 0);
+        c.tells("rest()", x, x.rest(), 0, 1, 0, 0);
+        c.tells("falls()", x, x.falls(), 0, -1, -1);
+        c.tells("swings()", x, x.swings(), 0, 0);
+        c.tells("onebyone()", x, x.onebyone(), 0, 0, 0);
+        c.tells("level(20)", x, x.level(20), 99, 0);
+        c.tells("ahead(1)", x, x.ahead(1), 1, 0);
+        c.tells("twins(0)", x, x.twins(0), 0);
+        c.tells("last()", x, x.last(), 1, 1, 1);
+        c.tells("first()", x, x.first(), 0);
+        c.tells("fates()", x, x.fates(), 1, 1);
+        c.tells("fewest(0, 20)", x, x.fewest(0, 20), 0, 0);
+        c.tells("cheapest(0, 0)", x, x.cheapest(0, 0), 0, 0);
+        c.tells("daily(0, 6)", x, x.daily(0, 6), 0, 0, -1);
+        c.tells("plan(0, 6)", x, x.plan(0, 6), 0);
+        c.tells("holds()", x, x.holds(), 0, 0);
+        c.tells("bound()", x, x.bound(), 0);
+        c.tells("market(60)", x, x.market(60), 0, 0, 0, 0);
+        c.tells("game(3)", x, x.game(3), 0, -1);
+        c.tells("against(6)", x, x.against(6), 0, -1);
+        c.tells("change(20)", x, x.change(20), 0);
+        c.tells("single(0)", x, x.single(0), 0, 0);
         c.due("guard(0)", x.guard(0), -2);
         c.due("picks(0)", x.picks(0), -2);
         c.due("go(200)", x.go(200), 0);
