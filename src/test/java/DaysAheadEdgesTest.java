@@ -102,6 +102,35 @@ public final class DaysAheadEdgesTest {
         c.tells("two otherwise", two, two.twins(1), 1, 2, 2);
         MoreThanHalf all = Checks.of("n0,1;n0,1;n0,1;n0,1;0>2*1;1>2*1;0>3*1;1>3*1;2>0*1;3>0*1;2>1*1;3>1*1");
         c.tells("of equal ones the least", all, all.twins(5), 8, 7, 1);
+        int even = 1 + 16 + 32 + 64 + 1024 + 2048 + 4096;
+        MoreThanHalf far = allOrNoneOf();
+        c.tells("all 14 otherwise", far, far.twins(even), 1, Streets.ALL_14 - even, 14);
+        c.tells("and back", far, far.twins(Streets.ALL_14 - even), 1, even, 14);
+    }
+
+    /**
+     * Two hear each of five groups, one of them 7 and more of 14, the other one 8 and more. Only if the first of a group
+     * alone, or all others of it alone, BELIEVE, the one does behind the DAY and the other does not; so one STATE and all
+     * that is otherwise have the same one behind them, and no other has.
+     */
+    private static MoreThanHalf allOrNoneOf() {
+        int[][] groups = { { 0, 1, 2, 3 }, { 1, 4, 5, 6 }, { 4, 7, 8, 9 }, { 7, 10, 11, 12 }, { 10, 13 } };
+        int[] loud = { 7, 1, 2, 4 };
+        int[][] hearers = { { 12, 13 }, { 10, 11 }, { 0, 1 }, { 2, 3 }, { 4, 5 } };
+        MoreThanHalf x = Streets.alike(14, "n0,1");
+        for (int g = 0; g < 5; g++) {
+            for (int k = 0; k < groups[g].length; k++) {
+                for (int hearer : hearers[g]) {
+                    Streets.tell(x, groups[g][k] + ">" + hearer + "*" + (g == 4 ? 1 : loud[k]));
+                }
+            }
+            x.set(hearers[g][0], 0, 49);
+            x.set(hearers[g][1], 0, 50);
+        }
+        for (int i = 6; i < 10; i++) {
+            Streets.tell(x, "0>" + i + "*1;1>" + i + "*1");
+        }
+        return x;
     }
 
     @Says(promise = 24, words = "NONE: bits of none such.")
