@@ -841,15 +841,8 @@ public final class MoreThanHalf {
             }
         }
 
-        void turnPair(int one, int other) {
-            addTurn(one, other, 1);
-        }
-
-        void turnPairBack(int one, int other) {
-            addTurn(one, other, -1);
-        }
-
-        private void addTurn(int one, int other, int times) {
+        // Made or ended by 1, and back as it is on the street by -1.
+        void turnPair(int one, int other, int times) {
             int loud = street.isPair(one, other) ? 0 : 1;
             addLoud(one, other, times * (loud - street.loud[one][other]));
             addLoud(other, one, times * (loud - street.loud[other][one]));
@@ -875,7 +868,7 @@ public final class MoreThanHalf {
                 int shift = (i - LANES) * LANE_BITS;
                 highBar = highBar & ~(LANE << shift) | bar << shift;
             }
-            boolean moves = all[i] > 0 && !street.isFirm(i);
+            boolean moves = all[i] > 0 && (street.firm >> i & 1) == 0;
             moving = moves ? moving | 1 << i : moving & ~(1 << i);
         }
 
@@ -925,14 +918,13 @@ public final class MoreThanHalf {
             return at;
         }
 
-        // On trial, what is kept must not be asked: it is of the street as it is.
-        int dayOf(int state, int wanted, int n, boolean onTrial) {
+        int dayOf(int state, int wanted, int n) {
             int at = state;
             for (int day = 0; day <= n; day++) {
                 if ((at & wanted) == wanted) {
                     return day;
                 }
-                int then = onTrial ? next(at) : after(at);
+                int then = after(at);
                 if (then == at) {
                     return NONE;
                 }
@@ -1174,7 +1166,7 @@ public final class MoreThanHalf {
             for (int set = 0; set <= street.everybody(); set++) {
                 if ((set & ~open) == 0) {
                     int costs = Integer.bitCount(set) + (priced ? street.priceOf(set) * COUNTS : 0);
-                    if (costs < least && hearing.dayOf(street.now() | set, people, n, false) != NONE) {
+                    if (costs < least && hearing.dayOf(street.now() | set, people, n) != NONE) {
                         least = costs;
                         whom = set;
                     }
@@ -1484,13 +1476,13 @@ public final class MoreThanHalf {
                 spare.add(Rule.LETTER + Rule.LETTERS.indexOf((char) text[at++]));
                 return true;
             }
-            if (isOneOf("(")) {
-                return depth < MOST_NESTED && readNested(depth);
+            if (isOneOf("0123456789")) {
+                spare.add(number());
+                return true;
             }
-            return readNumber();
-        }
-
-        private boolean readNested(int depth) {
+            if (!isOneOf("(") || depth >= MOST_NESTED) {
+                return false;
+            }
             at++;
             if (!readExpression(depth + 1) || !isOneOf(")")) {
                 return false;
@@ -1499,17 +1491,12 @@ public final class MoreThanHalf {
             return true;
         }
 
-        private boolean readNumber() {
-            int digits = 0;
+        private int number() {
             int number = 0;
-            while (digits < MOST_DIGITS && isOneOf("0123456789")) {
+            for (int digits = 0; digits < MOST_DIGITS && at < limit && text[at] >= '0' && text[at] <= '9'; digits++) {
                 number = number * 10 + text[at++] - '0';
-                digits++;
             }
-            if (digits > 0) {
-                spare.add(number);
-            }
-            return digits > 0;
+            return number;
         }
 
         private boolean isOneOf(String signs) {
@@ -1706,8 +1693,20 @@ public final class MoreThanHalf {
             this.trial = new Hearing(street);
         }
 
+        // Each DAY is gone through anew: what a Hearing keeps by STATE is of the street as it is.
         private int dayOfAll(int n) {
-            return trial.dayOf(street.now(), street.everybody(), n, true);
+            int at = street.now();
+            for (int day = 0; day <= n; day++) {
+                if (at == street.everybody()) {
+                    return day;
+                }
+                int then = trial.next(at);
+                if (then == at) {
+                    return NONE;
+                }
+                at = then;
+            }
+            return NONE;
         }
 
         // With a lower NEED no fewer BELIEVE on any DAY: so the greatest one can be found by halves.
@@ -1745,9 +1744,9 @@ public final class MoreThanHalf {
             }
             for (int first = 0; first < pairs; first++) {
                 if (isInOrder(first)) {
-                    turn(first);
+                    turn(first, 1);
                     int second = nextPair(first + 1, n);
-                    turnBack(first);
+                    turn(first, -1);
                     if (second < pairs) {
                         told.clear();
                         tellPair(first);
@@ -1770,9 +1769,9 @@ public final class MoreThanHalf {
         }
 
         private boolean doesIt(int pair, int n) {
-            turn(pair);
+            turn(pair, 1);
             boolean does = dayOfAll(n) != NONE;
-            turnBack(pair);
+            turn(pair, -1);
             return does;
         }
 
@@ -1806,12 +1805,8 @@ public final class MoreThanHalf {
             return one(pair) < other(pair);
         }
 
-        private void turn(int pair) {
-            trial.turnPair(one(pair), other(pair));
-        }
-
-        private void turnBack(int pair) {
-            trial.turnPairBack(one(pair), other(pair));
+        private void turn(int pair, int times) {
+            trial.turnPair(one(pair), other(pair), times);
         }
 
         private void tellPair(int pair) {
